@@ -29,6 +29,13 @@ public final class PlyStacker {
     private static final int STRAIGHT = 4;
     private static final int BALANCED = 8;
 
+    private static final int NO_TOKEN = 0;
+    private static final int WORD = 1;
+    private static final int NUMBER = 2;
+    private static final int SIGN = 3;
+    private static final int BLANK = 4;
+    private static final int END = 5;
+
     private static final int IN_PLANE = 0;
     private static final int COUPLED = 1;
     private static final int BENDING = 2;
@@ -43,7 +50,7 @@ public final class PlyStacker {
 
     public PlyStacker() {
         tape = new Tape();
-        reader = new Reader();
+        reader = new Reader(tape);
         now = new Plate();
         images = new Plate[IMAGES];
         for (int k = 0; k < IMAGES; k++) {
@@ -77,7 +84,7 @@ public final class PlyStacker {
     }
 
     public int plate() {
-        boolean good = reader.read(tape);
+        boolean good = reader.read();
         tape.size = 0;
         if (!good) {
             return FAULTY;
@@ -135,9 +142,9 @@ public final class PlyStacker {
             case 2:
                 return type;
             case 3:
-                return Rows.far(ply, now.plies());
+                return Rows.weight(COUPLED, ply, now.plies());
             case 4:
-                return Rows.thick(ply, now.plies());
+                return Rows.weight(BENDING, ply, now.plies());
             default:
                 return WRONG;
         }
@@ -223,7 +230,7 @@ public final class PlyStacker {
         if (ply == NONE || what == 2) {
             return ply;
         }
-        long strained = Math.abs(stress.along(now.typeAt(ply) % ANGLES));
+        long strained = Math.abs(stress.along(Rows.angleAt(now.row(), ply)));
         return Stress.inLowestTerms(stress.bound(now, ply), strained, what);
     }
 
@@ -697,20 +704,13 @@ public final class PlyStacker {
             return row & ~(15 << 4 * k) | type << 4 * k;
         }
 
-        private static int far(int k, int n) {
-            return 2 * k + 1 - n;
-        }
-
-        private static int thick(int k, int n) {
-            int far = far(k, n);
-            return 3 * far * far + 1;
-        }
-
+        /** How much PLY k of n counts in A (1), B (FAR) or D (THICK). */
         private static int weight(int which, int k, int n) {
             if (which == IN_PLANE) {
                 return 1;
             }
-            return which == COUPLED ? far(k, n) : thick(k, n);
+            int far = 2 * k + 1 - n;
+            return which == COUPLED ? far : 3 * far * far + 1;
         }
 
         private static int howMany(int row, int n, int type) {
@@ -930,8 +930,14 @@ public final class PlyStacker {
             return kind < 0 || kind >= MOST_KINDS || what < 0 || what > 4 ? 0 : numbers[5 * kind + what];
         }
 
+        private void setNumber(int kind, int what, int value) {
+            if (kind >= 0 && kind < MOST_KINDS && what >= 0 && what <= 4) {
+                numbers[5 * kind + what] = value;
+            }
+        }
+
         private int limitAt(int k) {
-            return number(typeAt(k) / ANGLES, 4);
+            return number(Rows.typeAt(row(), k) / ANGLES, 4);
         }
 
         /** Twice Q of the four TYPES of a KIND, from its NUMBERS. */
@@ -957,6 +963,10 @@ public final class PlyStacker {
             }
         }
 
+        private int cellAt(int type, int cell) {
+            return cells[(type & 15) * 9 + cell];
+        }
+
         private void setCell(int type, int cell, int value) {
             cells[(type & 15) * 9 + cell] = value;
         }
@@ -968,16 +978,22 @@ public final class PlyStacker {
             long sum = 0;
             for (int k = 0; k < n; k++) {
                 if ((gone >> k & 1) == 0) {
-                    sum += (long) Rows.weight(which, k, n) * cells[Rows.typeAt(row, k) * 9 + cell];
+                    sum += Rows.weight(which, k, n) * cells[Rows.typeAt(row, k) * 9 + cell];
                 }
             }
             return sum;
         }
 
+        /** The same entry for another row; ORDERS ask it of each of theirs, so it calls nothing. */
         private long totalOf(int row, int n, int which, int cell) {
-            long sum = 0;
+            int sum = 0;
+            int rest = row;
+            int far = 1 - n;
             for (int k = 0; k < n; k++) {
-                sum += (long) Rows.weight(which, k, n) * cells[Rows.typeAt(row, k) * 9 + cell];
+                int here = cells[(rest & 15) * 9 + cell];
+                sum += which == BENDING ? (3 * far * far + 1) * here : which == COUPLED ? far * here : here;
+                rest >>>= 4;
+                far += 2;
             }
             return sum;
         }
@@ -1083,27 +1099,26 @@ public final class PlyStacker {
             return k < 0 || k >= size || k >= MOST_BYTES ? NONE : bytes[k] & 255;
         }
 
-        private boolean isLetter(int k) {
-            return at(k) >= 'a' && at(k) <= 'z';
-        }
-
-        private boolean isDigit(int k) {
-            return at(k) >= '0' && at(k) <= '9';
-        }
-
-        private boolean isBlank(int k) {
-            return at(k) == 32 || at(k) == 10;
+        private int classAt(int k) {
+            if (k < 0 || k >= size || k >= MOST_BYTES) {
+                return END;
+            }
+            int sign = bytes[k];
+            if (sign >= 'a' && sign <= 'z') {
+                return WORD;
+            }
+            if (sign >= '0' && sign <= '9') {
+                return NUMBER;
+            }
+            if (sign == 32 || sign == 10) {
+                return BLANK;
+            }
+            return sign == ';' ? SIGN : NO_TOKEN;
         }
     }
 
     /** Reads a TEXT, TOKEN by TOKEN, into a draft of a PLATE. */
     private static final class Reader {
-        private static final int NO_TOKEN = 0;
-        private static final int WORD = 1;
-        private static final int NUMBER = 2;
-        private static final int SIGN = 3;
-        private static final int END = 4;
-
         private static final int MISPLACED = 1;
         private static final int UNSUITED = 2;
         private static final int TOO_MANY = 3;
@@ -1114,16 +1129,18 @@ public final class PlyStacker {
         private final Plate draft = new Plate();
         private final int[] nameStarts = new int[MOST_KINDS];
         private final int[] nameLengths = new int[MOST_KINDS];
-        private Tape text = null;
+        private final Tape text;
         private int token;
         private int start;
         private int after;
-        private int value;
         private int fault;
         private int place = NONE;
 
-        private boolean read(Tape tape) {
+        private Reader(Tape tape) {
             text = tape;
+        }
+
+        private boolean read() {
             fault = 0;
             place = NONE;
             after = 0;
@@ -1134,42 +1151,29 @@ public final class PlyStacker {
                 good = readLine();
             }
             draft.told = draft.lines > 0;
-            text = null;
             return good;
         }
 
         private void next() {
             start = after;
-            for (int k = 0; k < MOST_BYTES && text.isBlank(start); k++) {
+            for (int k = 0; k < MOST_BYTES && text.classAt(start) == BLANK; k++) {
                 start++;
             }
+            token = text.classAt(start);
             after = start + 1;
-            if (text.isLetter(start)) {
-                token = WORD;
-                endWord();
-            } else if (text.isDigit(start)) {
-                token = NUMBER;
-                endNumber();
-            } else if (text.at(start) == NONE) {
-                token = END;
-            } else {
-                token = text.at(start) == ';' ? SIGN : NO_TOKEN;
-            }
-        }
-
-        private void endWord() {
-            for (int k = 0; k < MOST_BYTES && text.isLetter(after); k++) {
+            boolean grows = token == WORD || token == NUMBER;
+            for (int k = 0; k < MOST_BYTES && grows && text.classAt(after) == token; k++) {
                 after++;
             }
         }
 
-        /** A number far beyond all bounds counts as BEYOND_BOUNDS, however long it is. */
-        private void endNumber() {
-            value = text.at(start) - '0';
-            for (int k = 0; k < MOST_BYTES && text.isDigit(after); k++) {
-                value = Math.min(10 * value + text.at(after) - '0', BEYOND_BOUNDS);
-                after++;
+        /** What the digits of the TOKEN tell; all that is beyond every bound counts as one number. */
+        private int tokenValue() {
+            int value = 0;
+            for (int k = start; k < after; k++) {
+                value = Math.min(10 * value + text.at(k) - '0', BEYOND_BOUNDS);
             }
+            return value;
         }
 
         private boolean refuse(int what) {
@@ -1204,7 +1208,7 @@ public final class PlyStacker {
             if (!pass("plate") || !pass("room") || !isNumberIn(1, MOST_ROOM)) {
                 return false;
             }
-            draft.rooms[0] = value;
+            draft.rooms[0] = tokenValue();
             next();
             return true;
         }
@@ -1238,7 +1242,7 @@ public final class PlyStacker {
             if (!pass(word) || !isNumberIn(least, most)) {
                 return false;
             }
-            draft.numbers[5 * kind + what] = value;
+            draft.setNumber(kind, what, tokenValue());
             next();
             return true;
         }
@@ -1279,6 +1283,7 @@ public final class PlyStacker {
             if (token != NUMBER) {
                 return refuse(MISPLACED);
             }
+            int value = tokenValue();
             return value >= least && value <= most || refuse(UNSUITED);
         }
 
@@ -1389,7 +1394,7 @@ public final class PlyStacker {
         }
 
         private long strainedAt(Plate plate, int k) {
-            return Math.abs(along(plate.typeAt(k) % ANGLES));
+            return Math.abs(along(Rows.angleAt(plate.row(), k)));
         }
 
         /** The LIMIT of a PLY, in the measure of along(). */
@@ -1504,7 +1509,7 @@ public final class PlyStacker {
             if (rows.length < most) {
                 rows = new long[most];
             }
-            lay(plate, 0, 0, 0, 0);
+            lay(plate, 0, 0, 0, 0, 0, 0);
             ready = true;
         }
 
@@ -1519,24 +1524,40 @@ public final class PlyStacker {
             return most;
         }
 
-        private void lay(Plate plate, int at, int row, int length, int taken) {
+        /**
+         * Lays the rest of a row in all ways. What B has at 0 0 and D at 0 2 by then comes along:
+         * few rows end with 0 there, and only these need a closer look.
+         */
+        private void lay(Plate plate, int at, int row, int length, int taken, int warped, int twisted) {
             if (at >= plies || at >= MOST_PLIES) {
-                store(row, plate.shape(row, plies));
+                store(row, shapeOf(plate, row, warped, twisted));
                 return;
             }
+            int below = at > 0 ? Rows.angleAt(row, at - 1) : NONE;
+            int far = 2 * at + 1 - plies;
             int tried = NONE;
             for (int k = 0; k < plies; k++) {
-                int type = Rows.typeAt(pool, k);
-                if ((taken >> k & 1) != 0 || type == tried) {
+                if ((taken >> k & 1) != 0) {
+                    continue;
+                }
+                int type = pool >>> 4 * k & 15;
+                int grown = (type & 3) == below ? length + 1 : 1;
+                if (type == tried || grown > room) {
                     continue;
                 }
                 tried = type;
-                boolean longer = at > 0 && (type & 3) == Rows.angleAt(row, at - 1);
-                int now = longer ? length + 1 : 1;
-                if (now <= room) {
-                    lay(plate, at + 1, row | type << 4 * at, now, taken | 1 << k);
-                }
+                int bow = warped + far * plate.cellAt(type, 0);
+                int skew = twisted + (3 * far * far + 1) * plate.cellAt(type, 2);
+                lay(plate, at + 1, row | type << 4 * at, grown, taken | 1 << k, bow, skew);
             }
+        }
+
+        private int shapeOf(Plate plate, int row, int warped, int twisted) {
+            int bits = Rows.isMirrored(row, plies) ? MIRRORED : 0;
+            if (bits != 0 || warped == 0 && plate.isRowFlat(row, plies)) {
+                bits |= FLAT;
+            }
+            return twisted == 0 && plate.isRowStraight(row, plies) ? bits | STRAIGHT : bits;
         }
 
         private void store(int row, int shape) {
