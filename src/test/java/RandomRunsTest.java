@@ -15,30 +15,31 @@ public final class RandomRunsTest {
 
     /** What the arguments of a call range over, the last bound left out. */
     private static final Map<String, int[][]> ARGUMENTS = new HashMap<>();
+    private static final int[] PLY = {0, 8};
+    private static final int[] SET = {1, 256};
+    private static final int[] LOAD = {-999, 1000};
+    private static final int[] MANY = {0, 40};
 
     static {
         int[] mask = {0, 8};
         int[] three = {0, 3};
         int[] angle = {0, 4};
-        int[] ply = {0, 8};
-        int[] load = {-999, 1000};
-        int[] many = {0, 40};
         range("fault", new int[] {0, 2});
         range("count", new int[] {0, 6});
         range("kind", three, new int[] {0, 6});
-        range("ply", ply, new int[] {0, 5});
+        range("ply", PLY, new int[] {0, 5});
         range("stiff", three, three, three);
         range("even");
         range("warp");
         range("twist");
         range("run", new int[] {0, 2});
         range("likes");
-        range("strain", load, load, load, three, new int[] {0, 2});
-        range("bend", load, load, load, three, new int[] {0, 2});
-        range("factor", load, load, load, three);
+        range("strain", LOAD, LOAD, LOAD, three, new int[] {0, 2});
+        range("bend", LOAD, LOAD, LOAD, three, new int[] {0, 2});
+        range("factor", LOAD, LOAD, LOAD, three);
         range("modulus", new int[] {0, 2}, new int[] {0, 2});
         range("orders", mask);
-        range("order", mask, many, ply);
+        range("order", mask, MANY, PLY);
         range("rank", mask);
         range("best", mask, angle);
         range("bestBy", mask, angle);
@@ -46,27 +47,27 @@ public final class RandomRunsTest {
         range("nearestAt", mask);
         range("unlike", mask);
         range("thinner", new int[] {1, 9}, mask);
-        range("thin", new int[] {1, 9}, mask, new int[] {0, 12});
+        range("thin", new int[] {1, 9}, mask, MANY);
         range("blend", mask, new int[] {1, 4});
         range("blends", mask, new int[] {1, 4});
-        range("comes", mask, new int[] {1, 4}, new int[] {1, 256});
+        range("comes", mask, new int[] {1, 4}, SET);
         range("step", mask, new int[] {1, 4}, new int[] {0, 5});
-        range("frail", load, load, load);
-        range("frailSet", load, load, load);
+        range("frail", LOAD, LOAD, LOAD);
+        range("frailSet", LOAD, LOAD, LOAD);
         range("carries", new int[] {0, 2});
         range("partOf", three, three);
         range("common", three, three);
-        range("lost", ply, three);
+        range("lost", PLY, three);
         range("worst", three);
-        range("spared", load, load, load);
-        range("exchanges", mask, many);
+        range("spared", LOAD, LOAD, LOAD);
+        range("exchanges", mask, MANY);
         range("many", three, angle);
-        range("swap", ply, ply);
-        range("turn", ply, angle);
+        range("swap", PLY, PLY);
+        range("turn", PLY, angle);
         range("put", new int[] {0, 9}, three, angle);
-        range("drop", ply);
-        range("become", mask, many);
-        range("keep", new int[] {1, 256});
+        range("drop", PLY);
+        range("become", mask, MANY);
+        range("keep", SET);
         range("room", new int[] {1, 9});
         range("whirl", new int[] {1, 4});
         range("upset");
@@ -93,6 +94,7 @@ public final class RandomRunsTest {
     }
 
     private int call(String name, int... args) {
+        if (calls.size() >= 512) return 0;
         Class<?>[] types = new Class<?>[args.length];
         Object[] given = new Object[args.length];
         StringBuilder text = new StringBuilder(name).append('(');
@@ -129,8 +131,12 @@ public final class RandomRunsTest {
         if (dice == 1) return bounds[1];
         if (dice == 2) return random.nextInt();
         if (dice == 3) return random.nextBoolean() ? Integer.MIN_VALUE : Integer.MAX_VALUE;
-        if (bounds[1] - bounds[0] > 1000 && random.nextInt(3) > 0) return random.nextInt(9) - 4;
-        return bounds[0] + random.nextInt(bounds[1] - bounds[0]);
+        int most = bounds[1];
+        if (bounds == PLY && y.count(2) > 0) most = y.count(2);
+        if (bounds == SET && y.count(2) > 0) most = 1 << y.count(2);
+        if (bounds == MANY && random.nextInt(3) > 0) most = 3;
+        if (bounds == LOAD && random.nextInt(3) > 0) return random.nextInt(9) - 4;
+        return bounds[0] + random.nextInt(most - bounds[0]);
     }
 
     private void randomCall(String name) {
@@ -157,14 +163,25 @@ public final class RandomRunsTest {
             out.addAll(List.of("kind", NAMES[(k + shift) % NAMES.length], "one", "" + (1 + below(99)), "two",
                 "" + below(100), "three", "" + below(100), "four", "" + below(100), "limit", "" + (1 + below(999)), ";"));
         }
-        int types = 1 + random.nextInt(4);
-        int base = random.nextInt(4);
+        int[] laid = row(kinds, plies);
         for (int k = 0; k < plies && kinds > 0; k++) {
-            int type = random.nextInt(types);
-            out.addAll(List.of("ply", NAMES[(type * 7 % kinds + shift) % NAMES.length],
-                ANGLES[random.nextInt(5) == 0 ? random.nextInt(4) : (base + type) % 4], ";"));
+            out.addAll(List.of("ply", NAMES[(laid[k] / 4 + shift) % NAMES.length], ANGLES[laid[k] % 4], ";"));
         }
         return out;
+    }
+
+    /** TYPES of a few sorts, mirrored half of the time. */
+    private int[] row(int kinds, int plies) {
+        int sorts = 1 + random.nextInt(4);
+        int[] sort = new int[sorts];
+        for (int k = 0; k < sorts; k++) sort[k] = random.nextInt(4 * Math.max(1, kinds));
+        boolean mirrored = random.nextBoolean();
+        int[] row = new int[plies];
+        for (int k = 0; k < plies; k++) {
+            boolean back = mirrored && 2 * k >= plies;
+            row[k] = back ? row[plies - 1 - k] : sort[random.nextInt(sorts)];
+        }
+        return row;
     }
 
     private String text(boolean faulty) {
@@ -187,6 +204,7 @@ public final class RandomRunsTest {
             if (apart || random.nextInt(5) == 0) out.append(blank());
             out.append(token);
         }
+        if (faulty && random.nextInt(8) == 0) out.append(" \n");
         return out.length() > 600 ? out.substring(0, 600) : out.toString();
     }
 
@@ -250,6 +268,62 @@ public final class RandomRunsTest {
         return ended("acts", seed);
     }
 
+    /** All that is asked of ORDERS and of THINNER plates by one mask. */
+    private int sweep(long seed) {
+        int mask = (int) (seed % 8);
+        int kinds = 1 + random.nextInt(3);
+        tell(String.join(" ", tokens(kinds, 1 + random.nextInt(random.nextInt(4) == 0 ? 8 : 6))));
+        if (random.nextBoolean()) call("room", 2 + random.nextInt(7));
+        int orders = call("orders", mask);
+        for (int k = 0; k <= orders && k < 9; k++) {
+            int at = k < 4 ? k : random.nextInt(orders + 1);
+            for (int i = 0; i < y.count(2); i++) call("order", mask, at, i);
+            call("exchanges", mask, at);
+        }
+        for (String name : new String[] {"rank", "nearest", "nearestAt", "unlike"}) call(name, mask);
+        for (int what = 0; what < 4; what++) {
+            call("best", mask, what);
+            call("bestBy", mask, what);
+        }
+        for (int n = 1; n <= y.count(2); n++) {
+            int sets = call("thinner", n, mask);
+            for (int k = 0; k <= sets && k < 4; k++) call("thin", n, mask, k);
+            call("thin", n, mask, sets - 1);
+        }
+        for (int d = 1; d <= 3; d++) {
+            call("blend", mask, d);
+            int plates = call("blends", mask, d);
+            for (int i = 0; i <= plates; i++) call("step", mask, d, i);
+            for (int k = 0; k < 20; k++) call("comes", mask, d, 1 + random.nextInt((1 << y.count(2)) - 1));
+        }
+        if (orders > 0) call("become", mask, random.nextInt(orders));
+        for (int i = 0; i < y.count(2); i++) call("ply", i, 2);
+        call("rank", mask);
+        return ended("sweep", seed);
+    }
+
+    /** Loads on plates that are flat, near to where LIMITS are. */
+    private int loads(long seed) {
+        int kinds = 1 + random.nextInt(3);
+        tell(String.join(" ", tokens(kinds, 1 + random.nextInt(8))));
+        for (int k = 0; k < 24; k++) {
+            int[] n = new int[3];
+            for (int i = 0; i < 3; i++) n[i] = random.nextInt(3) == 0 ? 0 : random.nextInt(1999) - 999;
+            for (int what = 0; what < 3; what++) {
+                call("factor", n[0], n[1], n[2], what);
+                call("strain", n[0], n[1], n[2], what, k % 2);
+                call("bend", n[0], n[1], n[2], what, k % 2);
+            }
+            call("spared", n);
+            call("frail", n);
+            call("frailSet", n);
+            call("modulus", k % 2, k / 2 % 2);
+            call("carries", k % 2);
+            if (k % 6 == 5) call("turn", random.nextInt(8), random.nextInt(4));
+        }
+        return ended("loads", seed);
+    }
+
     public static void main(String[] args) {
         int runs = args.length > 0 ? Integer.parseInt(args[0]) : 400;
         long first = args.length > 1 ? Long.parseLong(args[1]) : 1;
@@ -258,6 +332,8 @@ public final class RandomRunsTest {
             wrong += new RandomRunsTest(seed).texts(seed);
             wrong += new RandomRunsTest(seed + 1000003).mixed(seed, 150);
             wrong += new RandomRunsTest(seed + 2000003).acts(seed);
+            wrong += new RandomRunsTest(seed + 3000003).sweep(seed);
+            wrong += new RandomRunsTest(seed + 4000003).loads(seed);
         }
         System.out.println(wrong == 0 ? "all answers are as the model's" : wrong + " answers are not");
         if (wrong != 0) System.exit(1);
