@@ -142,9 +142,9 @@ public final class PlyStacker {
             case 2:
                 return type;
             case 3:
-                return Rows.weight(COUPLED, ply, now.plies());
+                return Rows.farOf(ply, now.plies());
             case 4:
-                return Rows.weight(BENDING, ply, now.plies());
+                return Rows.thickOf(Rows.farOf(ply, now.plies()));
             default:
                 return WRONG;
         }
@@ -704,13 +704,12 @@ public final class PlyStacker {
             return row & ~(15 << 4 * k) | type << 4 * k;
         }
 
-        /** How much PLY k of n counts in A (1), B (FAR) or D (THICK). */
-        private static int weight(int which, int k, int n) {
-            if (which == IN_PLANE) {
-                return 1;
-            }
-            int far = 2 * k + 1 - n;
-            return which == COUPLED ? far : 3 * far * far + 1;
+        private static int farOf(int k, int n) {
+            return 2 * k + 1 - n;
+        }
+
+        private static int thickOf(int far) {
+            return 3 * far * far + 1;
         }
 
         private static int howMany(int row, int n, int type) {
@@ -973,25 +972,17 @@ public final class PlyStacker {
 
         /** Twice an entry of A, B or D, PLIES of a set LOST. */
         private long total(int gone, int which, int cell) {
-            int row = row();
-            int n = plies();
-            long sum = 0;
-            for (int k = 0; k < n; k++) {
-                if ((gone >> k & 1) == 0) {
-                    sum += Rows.weight(which, k, n) * cells[Rows.typeAt(row, k) * 9 + cell];
-                }
-            }
-            return sum;
+            return totalOf(row(), plies(), gone, which, cell);
         }
 
-        /** The same entry for another row; ORDERS ask it of each of theirs, so it calls nothing. */
-        private long totalOf(int row, int n, int which, int cell) {
+        /** The same for another row; ORDERS ask it of each of theirs, so FAR goes along. */
+        private long totalOf(int row, int n, int gone, int which, int cell) {
             int sum = 0;
             int rest = row;
             int far = 1 - n;
             for (int k = 0; k < n; k++) {
-                int here = cells[(rest & 15) * 9 + cell];
-                sum += which == BENDING ? (3 * far * far + 1) * here : which == COUPLED ? far * here : here;
+                int here = (gone >> k & 1) == 0 ? cells[(rest & 15) * 9 + cell] : 0;
+                sum += which == BENDING ? Rows.thickOf(far) * here : which == COUPLED ? far * here : here;
                 rest >>>= 4;
                 far += 2;
             }
@@ -1023,7 +1014,7 @@ public final class PlyStacker {
         /** B is the same on both sides of its diagonal, and at 0 2 what it is at 1 2. */
         private boolean isRowFlat(int row, int n) {
             for (int cell : UPPER_CELLS) {
-                if (totalOf(row, n, COUPLED, cell) != 0) {
+                if (totalOf(row, n, 0, COUPLED, cell) != 0) {
                     return false;
                 }
             }
@@ -1031,7 +1022,7 @@ public final class PlyStacker {
         }
 
         private boolean isRowStraight(int row, int n) {
-            return totalOf(row, n, IN_PLANE, 2) == 0 && totalOf(row, n, BENDING, 2) == 0;
+            return totalOf(row, n, 0, IN_PLANE, 2) == 0 && totalOf(row, n, 0, BENDING, 2) == 0;
         }
 
         private boolean suits(int row, int n, int mask) {
@@ -1534,7 +1525,8 @@ public final class PlyStacker {
                 return;
             }
             int below = at > 0 ? Rows.angleAt(row, at - 1) : NONE;
-            int far = 2 * at + 1 - plies;
+            int far = Rows.farOf(at, plies);
+            int thick = Rows.thickOf(far);
             int tried = NONE;
             for (int k = 0; k < plies; k++) {
                 if ((taken >> k & 1) != 0) {
@@ -1547,7 +1539,7 @@ public final class PlyStacker {
                 }
                 tried = type;
                 int bow = warped + far * plate.cellAt(type, 0);
-                int skew = twisted + (3 * far * far + 1) * plate.cellAt(type, 2);
+                int skew = twisted + thick * plate.cellAt(type, 2);
                 lay(plate, at + 1, row | type << 4 * at, grown, taken | 1 << k, bow, skew);
             }
         }
@@ -1621,7 +1613,7 @@ public final class PlyStacker {
             if (what == 3) {
                 return Rows.likeNeighbours(rowAt(at), plies);
             }
-            return plate.totalOf(rowAt(at), plies, BENDING, 4 * what);
+            return plate.totalOf(rowAt(at), plies, 0, BENDING, 4 * what);
         }
 
         private int bestIndex(Plate plate, int mask, int what) {
@@ -1677,7 +1669,7 @@ public final class PlyStacker {
         private long bendKey(Plate plate, int row) {
             long key = 0;
             for (int what = 0; what < 3; what++) {
-                long digit = plate.totalOf(row, plies, BENDING, 4 * what) + DIGIT_ZERO;
+                long digit = plate.totalOf(row, plies, 0, BENDING, 4 * what) + DIGIT_ZERO;
                 key = key << DIGIT_BITS | digit;
             }
             return key;

@@ -122,6 +122,9 @@ public final class PromisesTest {
         text("plate room 3;kind room one 1 two 0 three 0 four 0 limit 1;ply room rise;", 3, 0, -1);
         text("plate room 3;kind one one 1 two 0 three 0 four 0 limit 1;", 2, 0, -1);
 
+        text("plate room 3;kind az one 19 two 0 three 0 four 0 limit 1;kind za one 90 two 0 three 0 four 0 limit 1;"
+            + "ply za flat;ply az flat;", 5, 0, -1);
+
         PlyStacker x = uneven();
         due("lines", x.count(4), 7);
         x.room(5);
@@ -182,6 +185,11 @@ public final class PromisesTest {
         faulty(1, "plate room 8;\n ^\t");
         faulty(1, "plate room 8;^\u00e9");
         faulty(1, "plate room 8;^\0");
+        for (char sign : "`{/:<_\r".toCharArray()) {
+            faulty(1, "plate room 8;^" + sign);
+            faulty(1, "plate room 8^" + sign + ";");
+            faulty(1, "plate room^" + sign + "8;");
+        }
         faulty(1, "plate room 8;^kinds u one 1");
         faulty(1, "plate room 8;kind ^7 one 1");
         faulty(1, "plate room 8;kind ^");
@@ -220,6 +228,31 @@ public final class PromisesTest {
         faulty(3, eight + "^ply aa flat;");
         faulty(3, eight + "^ply zz");
         faulty(1, eight + "^A");
+        p5words();
+    }
+
+    /** Each letter of each word of a text put wrong, the NAME aside. */
+    private static void misspelled(String text) {
+        boolean named = false;
+        for (int k = 0; k < text.length(); k++) {
+            boolean letter = text.charAt(k) >= 'a' && text.charAt(k) <= 'z';
+            int start = k;
+            while (letter && start > 0 && Character.isLetter(text.charAt(start - 1))) start--;
+            if (!letter || text.startsWith("nam", start)) continue;
+            named = true;
+            text(text.substring(0, k) + "x" + text.substring(k + 1), -4, 1, start);
+        }
+        due("words", named ? 1 : 0, 1);
+    }
+
+    private static void p5words() {
+        misspelled("plate room 1;kind nam one 1 two 2 three 3 four 4 limit 5;ply nam flat;ply nam rise;"
+            + "ply nam fall;ply nam cross;");
+        String told = "plate room 1;kind nam one 1 two 2 three 3 four 4 limit 5;";
+        for (String name : new String[] {"xam", "nxm", "nax", "na", "name", "n"}) {
+            faulty(2, told + "ply ^" + name + " flat;");
+            text(told + "kind " + name + " one 1 two 2 three 3 four 4 limit 5;", 3, 0, -1);
+        }
     }
 
     private static void p6() {
@@ -289,7 +322,26 @@ public final class PromisesTest {
         due("stiff(0, 0, 0)", none().stiff(0, 0, 0), NO_SUCH);
     }
 
+    /** Two PLIES whose B is 0 at all places but one: 0 0 (0), 1 1 (1), 0 1 (2), 2 2 (3), 0 2 (4). */
+    private static PlyStacker bowed(int where) {
+        String[] a = {"10 two 4 three 0 four 0", "10 two 4 three 0 four 0", "10 two 1 three 0 four 6",
+            "10 two 1 three 0 four 0", "10 two 1 three 0 four 0"};
+        String[] b = {"13 two 0 three 1 four 1", "13 two 0 three 1 four 1", "9 two 1 three 1 four 3",
+            "9 two 1 three 1 four 1", "10 two 3 three 0 four 0"};
+        String angle = where == 0 ? " cross" : where == 4 ? " rise" : " flat";
+        return told(8, "kind a one " + a[where] + " limit 1;kind b one " + b[where] + " limit 1;",
+            "a" + angle, "b" + angle);
+    }
+
+    /** D is 0 at 0 2, A is not. */
+    private static PlyStacker askew() {
+        return told(8, "kind a one 9 two 1 three 1 four 1 limit 1;kind b one 9 two 7 three 1 four 1 limit 1;",
+            "a rise", "b fall", "b fall", "a rise");
+    }
+
     private static void p10() {
+        for (int where = 0; where < 5; where++) due("bowed " + where, bowed(where).even(), where == 4 ? 0 : 12);
+        due("D alone is straight", askew().even(), 3);
         due("even()", uneven().even(), 8);
         due("even()", mirrored().even(), 15);
         due("even()", empty().even(), 15);
@@ -312,6 +364,8 @@ public final class PromisesTest {
 
     private static void p11() {
         due("warp()", uneven().warp(), 343);
+        long[] bows = {16, 16, 16, 4, 8};
+        for (int where = 0; where < 5; where++) due("bowed " + where, bowed(where).warp(), bows[where]);
         due("warp()", mirrored().warp(), 0);
         due("warp()", empty().warp(), 0);
         due("warp()", none().warp(), -2);
@@ -319,6 +373,7 @@ public final class PromisesTest {
 
     private static void p12() {
         due("twist()", uneven().twist(), 480);
+        due("A alone", askew().twist(), 24);
         due("twist()", mirrored().twist(), 0);
         due("twist()", told(8, AA, "aa fall").twist(), 40);
         due("twist()", empty().twist(), 0);
@@ -479,6 +534,12 @@ public final class PromisesTest {
         }
         due("orders(8)", mirrored().orders(8), -2);
         due("orders(-1)", mirrored().orders(-1), -2);
+        for (int where = 0; where < 5; where++) {
+            due("bowed " + where, bowed(where).orders(2), 0);
+            due("bowed " + where, bowed(where).orders(0), 2);
+        }
+        due("D alone is straight", askew().orders(4), 0);
+        due("D alone is straight", askew().orders(3), 2);
         PlyStacker x = mirrored();
         x.room(1);
         due("RUNS of one", x.orders(0), 2);
@@ -725,6 +786,9 @@ public final class PromisesTest {
         way(mirrored(), 1, 2, 15, 9, 1);
         way(mirrored(), 0, 3, 15, 1);
         way(woven(), 4, 1, 255);
+        // fewest PLIES come ahead of the least set, and so does the shortest way
+        way(told(8, AA, "aa rise", "aa fall", "aa flat", "aa rise", "aa fall"), 4, 3, 31, 14, 4);
+        way(told(1, AA, "aa flat", "aa rise", "aa cross", "aa fall", "aa cross"), 4, 2, 31, 14, 4);
         way(empty(), 0, 1, 0);
         way(uneven(), 1, 1);
         due("d", mirrored().step(0, 0, 0), -2);
