@@ -1,0 +1,198 @@
+/** Boundaries of promises 33 to 35 and 38 to 40: PLIES that are LOST, LIMITS (Terms IV, VII). */
+public final class BoundaryLostTest {
+    /** Three PLIES; twice A at 0 0 and 1 1 is two for each that is left, the LIMIT is 100. */
+    private static PlyStacker three() {
+        return Edges.told(3, "kind s one 1 two 0 three 0 four 0 limit 100;", "s flat", "s flat", "s flat");
+    }
+
+    /** DET of A is 0 if one is 2. */
+    private static PlyStacker slack(int one) {
+        return Edges.told(3, "kind a one 1 two 0 three 1 four 0 limit 1;kind b one " + one
+            + " two 0 three 0 four 0 limit 1;", "a flat", "b flat", "a flat");
+    }
+
+    private static PlyStacker single(int limit) {
+        return Edges.told(1, "kind s one 1 two 0 three 0 four 0 limit " + limit + ";", "s cross");
+    }
+
+    private static void noPlate(Edges.Call call, long refusal) {
+        Edges.stays("no PLATE", Edges::none, call, refusal);
+        Edges.stays("no PLATE", Edges::bare, call, refusal);
+    }
+
+    // ---- 33, 34 ----
+
+    static void p33_beyondLimitsByOne() {
+        int[][] due = {{0, 3}, {99, 3}, {100, 3}, {101, 2}, {199, 2}, {200, 2}, {201, 1}, {299, 1}, {300, 1}, {301, 0},
+            {302, 0}, {999, 0}};
+        for (int[] row : due) {
+            Edges.stays("by " + row[0], BoundaryLostTest::three, x -> x.frail(row[0], 0, 0), row[1]);
+            Edges.stays("by -" + row[0], BoundaryLostTest::three, x -> x.frail(-row[0], 0, 0), row[1]);
+        }
+        Edges.stays("not strained along", BoundaryLostTest::three, x -> x.frail(0, 999, 999), 3);
+    }
+
+    static void p33_detOf0IsBeyond() {
+        Edges.stays("no PLIES", Edges::empty, x -> x.frail(0, 0, 0), 0);
+        Edges.stays("as it is", () -> slack(2), x -> x.frail(0, 0, 0), 0);
+        Edges.stays("one below", () -> slack(1), x -> x.frail(0, 0, 0), 1);
+        Edges.stays("one above", () -> slack(3), x -> x.frail(0, 0, 0), 3);
+        Edges.stays("all LOST", () -> single(1), x -> x.frail(0, 0, 0), 1);
+    }
+
+    static void p33_loadsFrom999BelowTo999Above() {
+        Edges.loads("frail", Edges::mirrored, (x, a, b, c) -> x.frail(a, b, c), -2);
+        Edges.loads("frail", Edges::busy, (x, a, b, c) -> x.frail(a, b, c), -2);
+        Edges.loads("frail", Edges::empty, (x, a, b, c) -> x.frail(a, b, c), -2);
+        noPlate(x -> x.frail(0, 0, 0), -2);
+    }
+
+    static void p33_thoseLostAside() {
+        // the cross one alone bears little; without the flat one it must bear all
+        Edges.Maker maker = () -> Edges.told(2, Edges.AA + Edges.BB, "bb cross", "aa flat");
+        Edges.stays("one", maker, x -> x.frail(0, 150, 0), 1);
+        Edges.stays("that one", maker, x -> x.frailSet(0, 150, 0), 2);
+    }
+
+    static void p34_theLeastSetOfSoFew() {
+        int[][] due = {{0, 7}, {100, 7}, {101, 3}, {200, 3}, {201, 1}, {300, 1}, {301, 0}, {999, 0}};
+        for (int[] row : due) {
+            Edges.stays("by " + row[0], BoundaryLostTest::three, x -> x.frailSet(row[0], 0, 0), row[1]);
+            Edges.stays("by -" + row[0], BoundaryLostTest::three, x -> x.frailSet(-row[0], 0, 0), row[1]);
+        }
+        Edges.stays("a greater set of fewer", () -> slack(1), x -> x.frailSet(0, 0, 0), 1);
+        Edges.stays("all of eight", Edges::full, x -> x.frailSet(0, 0, 0), 255);
+    }
+
+    static void p34_noneLost() {
+        Edges.stays("no PLIES", Edges::empty, x -> x.frailSet(0, 0, 0), 0);
+        Edges.stays("DET of 0", () -> slack(2), x -> x.frailSet(0, 0, 0), 0);
+    }
+
+    static void p34_loadsFrom999BelowTo999Above() {
+        Edges.loads("frailSet", Edges::mirrored, (x, a, b, c) -> x.frailSet(a, b, c), -2);
+        Edges.loads("frailSet", Edges::busy, (x, a, b, c) -> x.frailSet(a, b, c), -2);
+        noPlate(x -> x.frailSet(0, 0, 0), -2);
+    }
+
+    // ---- 35 ----
+
+    static void p35_loadsFrom0To999() {
+        for (int limit : new int[] {1, 2, 998, 999}) {
+            Edges.range("axis", () -> single(limit), (x, axis) -> x.carries(axis), -2, 0, 999, limit);
+        }
+        String limp = "kind a one 1 two 0 three 0 four 0 limit 1;kind b one 2 two 2 three 0 four 2 limit 999;";
+        Edges.range("no load but 0", () -> Edges.told(2, limp, "a flat", "b cross"), (x, axis) -> x.carries(axis), -2, 0,
+            0, 0);
+        Edges.range("at LIMITS", BoundaryLostTest::three, (x, axis) -> x.carries(axis), -2, 0, 300, 999);
+    }
+
+    static void p35_thereIsNoSuchAxis() {
+        Edges.range("axis", Edges::uneven, (x, axis) -> x.carries(axis), -2, 0, 999, 358);
+        Edges.refusedOutside("axis", Edges::empty, (x, axis) -> x.carries(axis), -2, 0, 1);
+    }
+
+    static void p35_detOfAIsZero() {
+        Edges.range("no PLIES", Edges::empty, (x, axis) -> x.carries(axis), -2, 0, -1, -1);
+        Edges.range("it is", () -> slack(2), (x, axis) -> x.carries(axis), -2, 0, -1, -1);
+        Edges.stays("one below", () -> slack(1), x -> x.carries(0), 4);
+        Edges.stays("one above", () -> slack(3), x -> x.carries(0), 6);
+    }
+
+    static void p35_withoutAPlate() {
+        noPlate(x -> x.carries(0), -2);
+        noPlate(x -> x.carries(1), -2);
+    }
+
+    // ---- 38 ----
+
+    static void p38_thereIsNoSuchPly() {
+        Edges.range("ply", Edges::uneven, (x, ply) -> x.lost(ply, 0), Edges.NO_SUCH, 0, 1160, 2872, 2936, 2056);
+        Edges.range("ply", Edges::uneven, (x, ply) -> x.lost(ply, 1), Edges.NO_SUCH, 0, 86, 118, 134, 118);
+        Edges.range("ply", Edges::uneven, (x, ply) -> x.lost(ply, 2), Edges.NO_SUCH, 0, 446, 356, 355, 444);
+        Edges.refusedOutside("ply of none", Edges::empty, (x, ply) -> x.lost(ply, 0), Edges.NO_SUCH, 0, -1);
+        Edges.refusedOutside("ply of eight", Edges::full, (x, ply) -> x.lost(ply, 0), Edges.NO_SUCH, 0, 7);
+    }
+
+    static void p38_thereIsNoSuchWhat() {
+        Edges.range("what", Edges::uneven, (x, what) -> x.lost(0, what), Edges.NO_SUCH, 0, 1160, 86, 446);
+        Edges.range("what", () -> single(1), (x, what) -> x.lost(0, what), Edges.NO_SUCH, 0, 0, 0, 0);
+    }
+
+    static void p38_withoutAPlate() {
+        for (int what = 0; what < 3; what++) {
+            int which = what;
+            noPlate(x -> x.lost(0, which), Edges.NO_SUCH);
+        }
+    }
+
+    static void p38_itIsThereAsAhead() {
+        // the first of eight: the others stay as far as they were
+        PlyStacker x = Edges.told(8, "kind s one 1 two 0 three 0 four 0 limit 100;", "s flat", "s flat", "s flat", "s flat",
+            "s flat", "s flat", "s flat", "s flat");
+        long[] thick = {148, 76, 28, 4, 4, 28, 76, 148};
+        for (int k = 0; k < 8; k++) {
+            Edges.due("D", x.lost(k, 0), 2 * (512 - thick[k]));
+            Edges.due("A", x.lost(k, 1), 14);
+            Edges.due("B: 2 at 0 0, 2 at 1 1, 1 at 2 2", x.lost(k, 2), 5 * Math.abs(2 * k - 7));
+        }
+        Edges.due("PLIES", x.count(2), 8);
+    }
+
+    // ---- 39 ----
+
+    static void p39_thereIsNoSuchWhat() {
+        Edges.range("what", Edges::uneven, (x, what) -> x.worst(what), -2, 0, 0, 0, 0);
+        Edges.range("what", Edges::busy, (x, what) -> x.worst(what), -2, 0, 3, 2, 0);
+    }
+
+    static void p39_withoutPliesAndWithoutAPlate() {
+        Edges.range("no PLIES", Edges::empty, (x, what) -> x.worst(what), -2, 0, -1, -1, -1);
+        Edges.range("a PLY", () -> single(1), (x, what) -> x.worst(what), -2, 0, 0, 0, 0);
+        noPlate(x -> x.worst(0), -2);
+        noPlate(x -> x.worst(2), -2);
+    }
+
+    static void p39_theFirstOfSeveral() {
+        Edges.range("both outer ones", BoundaryLostTest::three, (x, what) -> x.worst(what), -2, 0, 0, 0, 0);
+        Edges.stays("both inner ones", () -> Edges.told(2, Edges.AA, "aa cross", "aa flat", "aa flat", "aa cross"),
+            x -> x.worst(1), 1);
+        Edges.stays("the last one alone", () -> Edges.told(2, Edges.AA, "aa cross", "aa cross", "aa flat"),
+            x -> x.worst(1), 2);
+    }
+
+    // ---- 40 ----
+
+    static void p40_withinLimitsByOne() {
+        int[][] due = {{0, 7}, {199, 7}, {200, 7}, {201, 0}, {202, 0}, {999, 0}};
+        for (int[] row : due) {
+            Edges.stays("by " + row[0], BoundaryLostTest::three, x -> x.spared(row[0], 0, 0), row[1]);
+            Edges.stays("by -" + row[0], BoundaryLostTest::three, x -> x.spared(-row[0], 0, 0), row[1]);
+        }
+    }
+
+    static void p40_detOf0IsNot() {
+        Edges.stays("no PLIES", Edges::empty, x -> x.spared(0, 0, 0), 0);
+        Edges.stays("a PLY", () -> single(999), x -> x.spared(0, 0, 0), 0);
+        // without one of the outer ones twice A at 2 2 is one - 1, without the inner one -2
+        Edges.stays("by an outer one", () -> slack(1), x -> x.spared(0, 0, 0), 2);
+        Edges.stays("by none", () -> slack(2), x -> x.spared(0, 0, 0), 7);
+        Edges.stays("by none", () -> slack(3), x -> x.spared(0, 0, 0), 7);
+    }
+
+    static void p40_theLostOneAside() {
+        Edges.stays("the one that bears little", () -> Edges.told(2, Edges.AA + Edges.BB, "aa flat", "bb cross"),
+            x -> x.spared(0, 100, 0), 2);
+    }
+
+    static void p40_loadsFrom999BelowTo999Above() {
+        Edges.loads("spared", Edges::mirrored, (x, a, b, c) -> x.spared(a, b, c), -2);
+        Edges.loads("spared", Edges::busy, (x, a, b, c) -> x.spared(a, b, c), -2);
+        Edges.loads("spared", Edges::empty, (x, a, b, c) -> x.spared(a, b, c), -2);
+        noPlate(x -> x.spared(0, 0, 0), -2);
+    }
+
+    public static void main(String[] args) {
+        Edges.run(BoundaryLostTest.class, 33, 34, 35, 38, 39, 40);
+    }
+}

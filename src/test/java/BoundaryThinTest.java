@@ -1,0 +1,240 @@
+/** Boundaries of promises 27 to 32: THINNER plates and ways to them (Terms VI). */
+public final class BoundaryThinTest {
+    /** STRAIGHT and FLAT: rise and fall as Thue and Morse have them. */
+    private static PlyStacker woven() {
+        return Edges.told(8, Edges.AA, "aa rise", "aa fall", "aa fall", "aa rise", "aa fall", "aa rise", "aa rise", "aa fall");
+    }
+
+    /** So many PLIES that lie flat. */
+    private static PlyStacker flats(int n, int room) {
+        String[] plies = new String[n];
+        java.util.Arrays.fill(plies, "aa flat");
+        return Edges.told(room, Edges.AA, plies);
+    }
+
+    private static void noPlate(Edges.Call call) {
+        Edges.stays("no PLATE", Edges::none, call, -2);
+        Edges.stays("no PLATE", Edges::bare, call, -2);
+    }
+
+    private static void masks(String what, Edges.Asker asker) {
+        for (int mask = 0; mask < 8; mask++) {
+            Edges.due(what + " " + mask + " may be", asker.ask(Edges.mirrored(), mask) == -2 ? 1 : 0, 0);
+        }
+        Edges.refusedOutside(what, Edges::mirrored, asker, -2, 0, 7);
+        Edges.refusedOutside(what, Edges::busy, asker, -2, 0, 7);
+    }
+
+    private static void strides(String what, Edges.Asker asker, long... wants) {
+        Edges.range(what, Edges::mirrored, asker, -2, 1, wants);
+        Edges.refusedOutside(what, Edges::busy, asker, -2, 1, 3);
+        Edges.refusedOutside(what, Edges::empty, asker, -2, 1, 3);
+    }
+
+    // ---- 27 ----
+
+    static void p27_setsOfOneToAllPlies() {
+        Edges.range("n", Edges::mirrored, (x, n) -> x.thinner(n, 1), -2, 1, 4, 2, 2, 1);
+        Edges.range("n", Edges::mirrored, (x, n) -> x.thinner(n, 0), -2, 1, 4, 6, 4, 1);
+        Edges.range("n of eight", Edges::full, (x, n) -> x.thinner(n, 0), -2, 1, 8, 28, 56, 70, 56, 28, 8, 1);
+        Edges.range("n of one", () -> flats(1, 1), (x, n) -> x.thinner(n, 7), -2, 1, 1);
+        Edges.refusedOutside("n of none", Edges::empty, (x, n) -> x.thinner(n, 0), -2, 1, 0);
+        Edges.refusedOutside("n", Edges::busy, (x, n) -> x.thinner(n, 0), -2, 1, 4);
+    }
+
+    static void p27_noRunLongerThanRoom() {
+        Edges.range("ROOM 1", () -> flats(4, 1), (x, n) -> x.thinner(n, 0), -2, 1, 4, 0, 0, 0);
+        Edges.range("ROOM 2", () -> flats(4, 2), (x, n) -> x.thinner(n, 0), -2, 1, 4, 6, 0, 0);
+        Edges.range("ROOM 3", () -> flats(4, 3), (x, n) -> x.thinner(n, 0), -2, 1, 4, 6, 4, 0);
+        Edges.range("ROOM 4", () -> flats(4, 4), (x, n) -> x.thinner(n, 0), -2, 1, 4, 6, 4, 1);
+        Edges.range("RUNS that grow", () -> Edges.told(1, Edges.AA, "aa flat", "aa rise", "aa flat"),
+            (x, n) -> x.thinner(n, 0), -2, 1, 3, 2, 1);
+    }
+
+    static void p27_masksAndNoPlate() {
+        Edges.range("mask", Edges::mirrored, (x, mask) -> x.thinner(2, mask), -2, 0, 6, 2, 2, 2, 6, 2, 2, 2);
+        masks("thinner", (x, mask) -> x.thinner(1, mask));
+        noPlate(x -> x.thinner(1, 0));
+        noPlate(x -> x.thinner(0, 0));
+    }
+
+    // ---- 28 ----
+
+    static void p28_notSoManyAndBelow0() {
+        int[][] sets = {{1, 2, 4, 8}, {6, 9}, {11, 13}, {15}};
+        for (int n = 1; n <= 4; n++) {
+            int many = n;
+            for (int k = 0; k < sets[n - 1].length; k++) {
+                int which = k;
+                Edges.stays("thin", Edges::mirrored, x -> x.thin(many, 1, which), sets[n - 1][k]);
+            }
+            for (int k : new int[] {sets[n - 1].length, sets[n - 1].length + 1, 65536, Edges.MAX}) {
+                Edges.stays("not so many", Edges::mirrored, x -> x.thin(many, 1, k), -1);
+            }
+            for (int k : new int[] {-1, -2, Edges.MIN}) {
+                Edges.stays("below 0", Edges::mirrored, x -> x.thin(many, 1, k), -2);
+                Edges.stays("below 0", Edges::busy, x -> x.thin(many, 1, k), -2);
+            }
+        }
+        Edges.stays("none at all", () -> flats(4, 2), x -> x.thin(3, 0, 0), -1);
+    }
+
+    static void p28_setsOfOneToAllPlies() {
+        Edges.range("n", Edges::mirrored, (x, n) -> x.thin(n, 0, 0), -2, 1, 1, 3, 7, 15);
+        Edges.range("n of eight", Edges::full, (x, n) -> x.thin(n, 0, 0), -2, 1, 1, 3, 7, 15, 31, 63, 127, 255);
+        Edges.stays("the last of eight", Edges::full, x -> x.thin(4, 0, 69), 240);
+        Edges.stays("one behind", Edges::full, x -> x.thin(4, 0, 70), -1);
+        Edges.refusedOutside("n of none", Edges::empty, (x, n) -> x.thin(n, 0, 0), -2, 1, 0);
+        Edges.refusedOutside("n", Edges::busy, (x, n) -> x.thin(n, 0, 0), -2, 1, 4);
+    }
+
+    static void p28_masksAndNoPlate() {
+        masks("thin", (x, mask) -> x.thin(1, mask, 0));
+        noPlate(x -> x.thin(1, 0, 0));
+    }
+
+    // ---- 29 ----
+
+    static void p29_oneToThreeDropped() {
+        strides("d", (x, d) -> x.blend(1, d), 1, 1, 1);
+        Edges.range("by two at least", BoundaryThinTest::woven, (x, d) -> x.blend(4, d), -2, 1, 8, 2, 2);
+        Edges.range("no PLIES", Edges::empty, (x, d) -> x.blend(7, d), -2, 1, 0, 0, 0);
+    }
+
+    static void p29_itIsNotSoItself() {
+        for (int d = 1; d <= 3; d++) {
+            int most = d;
+            Edges.stays("not MIRRORED", Edges::busy, x -> x.blend(1, most), -1);
+            Edges.stays("a RUN too long", () -> flats(3, 2), x -> x.blend(0, most), -1);
+            Edges.stays("a RUN at ROOM", () -> flats(3, 3), x -> x.blend(0, most), 1);
+        }
+    }
+
+    static void p29_onePlyAtLeastStays() {
+        for (int n = 1; n <= 8; n++) {
+            PlyStacker x = flats(n, 8);
+            for (int d = 1; d <= 3; d++) Edges.due("of " + n, x.blend(7, d), 1);
+        }
+        Edges.stays("0 if there are none", Edges::empty, x -> x.blend(7, 1), 0);
+    }
+
+    static void p29_eachPlateOnTheWay() {
+        Edges.Maker rising = () -> Edges.told(1, Edges.AA, "aa rise", "aa flat", "aa fall", "aa flat", "aa rise");
+        // dropped one by one a RUN comes up within: only from the ends it goes on
+        Edges.range("MIRRORED", rising, (x, d) -> x.blend(1, d), -2, 1, 5, 1, 1);
+        Edges.range("any", rising, (x, d) -> x.blend(0, d), -2, 1, 1, 1, 1);
+    }
+
+    static void p29_masksAndNoPlate() {
+        Edges.range("mask", Edges::mirrored, (x, mask) -> x.blend(mask, 1), -2, 0, 1, 1, 1, 1, 1, 1, 1, 1);
+        Edges.refusedOutside("mask", Edges::busy, (x, mask) -> x.blend(mask, 1), -2, 0, 7);
+        noPlate(x -> x.blend(0, 1));
+    }
+
+    // ---- 30 ----
+
+    static void p30_oneToThreeDropped() {
+        strides("d", (x, d) -> x.blends(1, d), 4, 3, 2);
+        Edges.range("by two at least", BoundaryThinTest::woven, (x, d) -> x.blends(4, d), -2, 1, 1, 4, 4);
+        Edges.range("no PLIES", Edges::empty, (x, d) -> x.blends(7, d), -2, 1, 1, 1, 1);
+    }
+
+    static void p30_itIsNotSoItself() {
+        for (int d = 1; d <= 3; d++) {
+            int most = d;
+            Edges.stays("not MIRRORED", Edges::busy, x -> x.blends(1, most), -1);
+            Edges.stays("a RUN too long", () -> flats(3, 2), x -> x.blends(0, most), -1);
+        }
+    }
+
+    static void p30_fromOneToEightPlates() {
+        for (int n = 1; n <= 8; n++) {
+            PlyStacker x = flats(n, 8);
+            for (int d = 1; d <= 3; d++) Edges.due("of " + n, x.blends(7, d), 1 + (n - 1 + d - 1) / d);
+        }
+    }
+
+    static void p30_masksAndNoPlate() {
+        Edges.range("mask", Edges::mirrored, (x, mask) -> x.blends(mask, 1), -2, 0, 4, 4, 4, 4, 4, 4, 4, 4);
+        Edges.refusedOutside("mask", Edges::busy, (x, mask) -> x.blends(mask, 1), -2, 0, 7);
+        noPlate(x -> x.blends(0, 1));
+    }
+
+    // ---- 31 ----
+
+    static void p31_setsFromOneToAllPlies() {
+        Edges.range("set", Edges::mirrored, (x, set) -> x.comes(1, 1, set), -2, 1,
+            1, 0, 0, 0, 0, 0, 0, 1, 1, 0, 1, 0, 1, 0, 1);
+        Edges.range("set", Edges::mirrored, (x, set) -> x.comes(1, 2, set), -2, 1,
+            1, 1, 0, 1, 0, 1, 0, 1, 1, 0, 1, 0, 1, 0, 1);
+        Edges.range("not so itself", Edges::busy, (x, set) -> x.comes(1, 3, set), -2, 1,
+            0, 0, 0, 0, 0, 0, 0, 0, 0, 0, 0, 0, 0, 0, 0);
+        Edges.range("a PLY", () -> flats(1, 1), (x, set) -> x.comes(7, 1, set), -2, 1, 1);
+        Edges.refusedOutside("no PLIES", Edges::empty, (x, set) -> x.comes(0, 1, set), -2, 1, 0);
+        Edges.due("all of eight", Edges.full().comes(0, 1, 255), 1);
+        Edges.refusedOutside("of eight", Edges::full, (x, set) -> x.comes(0, 1, set), -2, 1, 255);
+    }
+
+    static void p31_oneToThreeDropped() {
+        strides("to the inner ones", (x, d) -> x.count(2) == 0 ? x.blend(1, d) : x.comes(1, d, 6), 0, 1, 1);
+        Edges.refusedOutside("d", Edges::mirrored, (x, d) -> x.comes(1, d, 15), -2, 1, 3);
+    }
+
+    static void p31_masksAndNoPlate() {
+        Edges.range("mask", Edges::mirrored, (x, mask) -> x.comes(mask, 1, 7), -2, 0, 1, 0, 0, 0, 1, 0, 0, 0);
+        Edges.refusedOutside("mask", Edges::busy, (x, mask) -> x.comes(mask, 1, 1), -2, 0, 7);
+        noPlate(x -> x.comes(0, 1, 1));
+        noPlate(x -> x.comes(0, 1, 0));
+    }
+
+    // ---- 32 ----
+
+    private static void way(Edges.Maker maker, int mask, int d, int... sets) {
+        for (int i = 0; i < sets.length; i++) {
+            int at = i;
+            Edges.stays("step", maker, x -> x.step(mask, d, at), sets[i]);
+        }
+        for (int i : new int[] {sets.length, sets.length + 1, 65536, Edges.MAX}) {
+            Edges.stays("not so many", maker, x -> x.step(mask, d, i), -1);
+        }
+        for (int i : new int[] {-1, -2, Edges.MIN}) Edges.stays("below 0", maker, x -> x.step(mask, d, i), -2);
+    }
+
+    static void p32_notSoManyAndBelow0() {
+        way(Edges::mirrored, 1, 1, 15, 11, 9, 1);
+        way(Edges::mirrored, 1, 2, 15, 9, 1);
+        way(Edges::mirrored, 1, 3, 15, 1);
+        way(BoundaryThinTest::woven, 4, 1, 255);
+        way(() -> flats(1, 1), 7, 3, 1);
+        way(() -> flats(8, 8), 7, 1, 255, 127, 63, 31, 15, 7, 3, 1);
+        way(() -> flats(8, 8), 7, 3, 255, 31, 3, 1);
+    }
+
+    static void p32_withoutPliesAndNotSoItself() {
+        way(Edges::empty, 0, 1, 0);
+        way(Edges::empty, 7, 3, 0);
+        way(Edges::busy, 1, 1);
+        way(() -> flats(3, 2), 0, 3);
+    }
+
+    static void p32_oneToThreeDropped() {
+        strides("d", (x, d) -> x.step(1, d, 1), 11, 9, 1);
+        Edges.refusedOutside("d", Edges::mirrored, (x, d) -> x.step(1, d, 0), -2, 1, 3);
+    }
+
+    static void p32_theLeastSetWithSoShortAWay() {
+        // one PLY is come to as soon from above as from below; a nearer set comes ahead of a lesser one
+        way(() -> Edges.told(8, Edges.AA, "aa rise", "aa fall", "aa flat", "aa rise", "aa fall"), 4, 3, 31, 14, 4);
+        way(() -> Edges.told(1, Edges.AA, "aa flat", "aa rise", "aa cross", "aa fall", "aa cross"), 4, 2, 31, 14, 4);
+    }
+
+    static void p32_masksAndNoPlate() {
+        Edges.range("mask", Edges::mirrored, (x, mask) -> x.step(mask, 1, 1), -2, 0, 7, 11, 11, 11, 7, 11, 11, 11);
+        Edges.refusedOutside("mask", Edges::busy, (x, mask) -> x.step(mask, 1, 0), -2, 0, 7);
+        noPlate(x -> x.step(0, 1, 0));
+    }
+
+    public static void main(String[] args) {
+        Edges.run(BoundaryThinTest.class, 27, 28, 29, 30, 31, 32);
+    }
+}
