@@ -5,12 +5,6 @@ public final class BoundaryLostTest {
         return Edges.told(3, "kind s one 1 two 0 three 0 four 0 limit 100;", "s flat", "s flat", "s flat");
     }
 
-    /** DET of A is 0 if one is 2. */
-    private static PlyStacker slack(int one) {
-        return Edges.told(3, "kind a one 1 two 0 three 1 four 0 limit 1;kind b one " + one
-            + " two 0 three 0 four 0 limit 1;", "a flat", "b flat", "a flat");
-    }
-
     private static PlyStacker single(int limit) {
         return Edges.told(1, "kind s one 1 two 0 three 0 four 0 limit " + limit + ";", "s cross");
     }
@@ -34,9 +28,9 @@ public final class BoundaryLostTest {
 
     static void p33_detOf0IsBeyond() {
         Edges.stays("no PLIES", Edges::empty, x -> x.frail(0, 0, 0), 0);
-        Edges.stays("as it is", () -> slack(2), x -> x.frail(0, 0, 0), 0);
-        Edges.stays("one below", () -> slack(1), x -> x.frail(0, 0, 0), 1);
-        Edges.stays("one above", () -> slack(3), x -> x.frail(0, 0, 0), 3);
+        Edges.stays("as it is", () -> Edges.slack(2), x -> x.frail(0, 0, 0), 0);
+        Edges.stays("one below", () -> Edges.slack(1), x -> x.frail(0, 0, 0), 1);
+        Edges.stays("one above", () -> Edges.slack(3), x -> x.frail(0, 0, 0), 3);
         Edges.stays("all LOST", () -> single(1), x -> x.frail(0, 0, 0), 1);
     }
 
@@ -60,13 +54,13 @@ public final class BoundaryLostTest {
             Edges.stays("by " + row[0], BoundaryLostTest::three, x -> x.frailSet(row[0], 0, 0), row[1]);
             Edges.stays("by -" + row[0], BoundaryLostTest::three, x -> x.frailSet(-row[0], 0, 0), row[1]);
         }
-        Edges.stays("a greater set of fewer", () -> slack(1), x -> x.frailSet(0, 0, 0), 1);
+        Edges.stays("a greater set of fewer", () -> Edges.slack(1), x -> x.frailSet(0, 0, 0), 1);
         Edges.stays("all of eight", Edges::full, x -> x.frailSet(0, 0, 0), 255);
     }
 
     static void p34_noneLost() {
         Edges.stays("no PLIES", Edges::empty, x -> x.frailSet(0, 0, 0), 0);
-        Edges.stays("DET of 0", () -> slack(2), x -> x.frailSet(0, 0, 0), 0);
+        Edges.stays("DET of 0", () -> Edges.slack(2), x -> x.frailSet(0, 0, 0), 0);
     }
 
     static void p34_loadsFrom999BelowTo999Above() {
@@ -94,9 +88,22 @@ public final class BoundaryLostTest {
 
     static void p35_detOfAIsZero() {
         Edges.range("no PLIES", Edges::empty, (x, axis) -> x.carries(axis), -2, 0, -1, -1);
-        Edges.range("it is", () -> slack(2), (x, axis) -> x.carries(axis), -2, 0, -1, -1);
-        Edges.stays("one below", () -> slack(1), x -> x.carries(0), 4);
-        Edges.stays("one above", () -> slack(3), x -> x.carries(0), 6);
+        Edges.range("it is", () -> Edges.slack(2), (x, axis) -> x.carries(axis), -2, 0, -1, -1);
+        Edges.stays("one below", () -> Edges.slack(1), x -> x.carries(0), 4);
+        Edges.stays("one above", () -> Edges.slack(3), x -> x.carries(0), 6);
+    }
+
+    static void p35_detOfAIsZeroByA02() {
+        // half of STRAINS together is 1 by 18 and 1 by 22 by a load of 1, the LIMIT is 9
+        Edges.stays("one below", () -> Edges.leaning(4), x -> x.carries(0), 162);
+        Edges.stays("it is", () -> Edges.leaning(5), x -> x.carries(0), -1);
+        Edges.stays("one above", () -> Edges.leaning(6), x -> x.carries(0), 198);
+    }
+
+    static void p35_alongOneAxisAlone() {
+        // half of STRAINS 0 and 1 is the load by 200, and STRAIN 2 is none
+        Edges.range("at LIMITS", () -> Edges.slanted(4), (x, axis) -> x.carries(axis), -2, 0, 800, 800);
+        Edges.range("beyond 999", () -> Edges.slanted(5), (x, axis) -> x.carries(axis), -2, 0, 999, 999);
     }
 
     static void p35_withoutAPlate() {
@@ -175,9 +182,9 @@ public final class BoundaryLostTest {
         Edges.stays("no PLIES", Edges::empty, x -> x.spared(0, 0, 0), 0);
         Edges.stays("a PLY", () -> single(999), x -> x.spared(0, 0, 0), 0);
         // without one of the outer ones twice A at 2 2 is one - 1, without the inner one -2
-        Edges.stays("by an outer one", () -> slack(1), x -> x.spared(0, 0, 0), 2);
-        Edges.stays("by none", () -> slack(2), x -> x.spared(0, 0, 0), 7);
-        Edges.stays("by none", () -> slack(3), x -> x.spared(0, 0, 0), 7);
+        Edges.stays("by an outer one", () -> Edges.slack(1), x -> x.spared(0, 0, 0), 2);
+        Edges.stays("by none", () -> Edges.slack(2), x -> x.spared(0, 0, 0), 7);
+        Edges.stays("by none", () -> Edges.slack(3), x -> x.spared(0, 0, 0), 7);
     }
 
     static void p40_theLostOneAside() {

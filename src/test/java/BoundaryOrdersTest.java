@@ -83,6 +83,41 @@ public final class BoundaryOrdersTest {
         Edges.due("one TYPE", flats(8, 7).orders(0), 0);
     }
 
+    static void p19_flatButNotMirrored() {
+        Edges.range("two KINDS alike", () -> Edges.told(8, Edges.LIKE, "a flat", "b flat"), (x, mask) -> x.orders(mask), -2,
+            0, 2, 0, 2, 0, 2, 0, 2, 0);
+        for (int where = 0; where < 5; where++) {
+            Edges.due("bowed at one place", Edges.bowed(where).orders(2), 0);
+            Edges.due("bowed at one place", Edges.bowed(where).orders(0), 2);
+        }
+    }
+
+    static void p19_straightInPlaneAndInBending() {
+        Edges.due("A always is, D with one of each outside", Edges.skew(3, 3).orders(4), 4);
+        Edges.due("D can be, A never is", Edges.skew(3, 21).orders(4), 0);
+        Edges.due("all", Edges.skew(0, 0).orders(4), 6);
+    }
+
+    static void p19_otherNumbersOfTheSameTypes() {
+        PlyStacker x = Edges.told(8, Edges.AA + Edges.BB, "aa flat", "bb flat");
+        x.image(0);
+        Edges.due("unlike KINDS", x.orders(2), 0);
+        Feeder.feed(x, "plate room 8;" + Edges.LIKE + "ply a flat;ply b flat;");
+        x.plate();
+        Edges.due("like KINDS", x.orders(2), 2);
+        x.back(0);
+        Edges.due("unlike KINDS", x.orders(2), 0);
+    }
+
+    static void p19_otherPliesOfOneType() {
+        PlyStacker x = flats(3, 2);
+        Edges.due("three", x.orders(0), 0);
+        x.drop(0);
+        Edges.due("two", x.orders(0), 1);
+        x.undo();
+        Edges.due("three", x.orders(0), 0);
+    }
+
     static void p19_asThePlateIsThen() {
         PlyStacker x = Edges.mirrored();
         Edges.due("four", x.orders(0), 6);
@@ -301,9 +336,8 @@ public final class BoundaryOrdersTest {
     static void p26_noneAndOne() {
         Edges.stays("none", () -> flats(3, 2), x -> x.unlike(0), 0);
         Edges.stays("one", () -> flats(3, 3), x -> x.unlike(0), 1);
-        String like = "kind a one 9 two 2 three 1 four 1 limit 1;kind b one 9 two 2 three 1 four 1 limit 1;";
-        Edges.stays("two that bend alike", () -> Edges.told(8, like, "a flat", "b flat"), x -> x.unlike(0), 1);
-        Edges.stays("two ORDERS", () -> Edges.told(8, like, "a flat", "b flat"), x -> x.orders(0), 2);
+        Edges.stays("two that bend alike", () -> Edges.told(8, Edges.LIKE, "a flat", "b flat"), x -> x.unlike(0), 1);
+        Edges.stays("two ORDERS", () -> Edges.told(8, Edges.LIKE, "a flat", "b flat"), x -> x.orders(0), 2);
     }
 
     /** The two KINDS' Q at flat is unlike at 0 0 alone, at 1 1 alone, at 2 2 alone, and nowhere. */

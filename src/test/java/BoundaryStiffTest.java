@@ -3,8 +3,6 @@ public final class BoundaryStiffTest {
     private static final long NOT_FLAT = Edges.NO_SUCH + 1;
     private static final String GREATEST = "kind g one 99 two 99 three 99 four 0 limit 999;";
     private static final String LEAST = "kind l one 1 two 99 three 99 four 99 limit 1;";
-    /** Two KINDS with the same NUMBERS. */
-    private static final String LIKE = "kind a one 9 two 2 three 1 four 1 limit 1;kind b one 9 two 2 three 1 four 1 limit 1;";
 
     private static PlyStacker same(int n, String kind, String ply) {
         String[] plies = new String[n];
@@ -207,40 +205,23 @@ public final class BoundaryStiffTest {
                 x.undo();
             }
         }
-        Edges.due("by TYPE, not by ANGLE", Edges.told(8, LIKE, "a flat", "b flat").even(), 14);
-    }
-
-    /** Two PLIES whose B is 0 at all places but one: 0 0 (0), 1 1 (1), 0 1 (2), 2 2 (3), 0 2 (4). */
-    private static PlyStacker bowed(int where) {
-        String[] a = {"10 two 4 three 0 four 0", "10 two 4 three 0 four 0", "10 two 1 three 0 four 6",
-            "10 two 1 three 0 four 0", "10 two 1 three 0 four 0"};
-        String[] b = {"13 two 0 three 1 four 1", "13 two 0 three 1 four 1", "9 two 1 three 1 four 3",
-            "9 two 1 three 1 four 1", "10 two 3 three 0 four 0"};
-        String angle = where == 0 ? " cross" : where == 4 ? " rise" : " flat";
-        return Edges.told(8, "kind a one " + a[where] + " limit 1;kind b one " + b[where] + " limit 1;", "a" + angle,
-            "b" + angle);
+        Edges.due("by TYPE, not by ANGLE", Edges.told(8, Edges.LIKE, "a flat", "b flat").even(), 14);
     }
 
     static void p10_flatAtAllPlaces() {
         int[] even = {12, 12, 12, 12, 0};
-        for (int where = 0; where < 5; where++) Edges.due("bowed at one place", bowed(where).even(), even[where]);
-        Edges.due("not bowed", Edges.told(8, LIKE, "a rise", "b rise").even(), 2);
-    }
-
-    /** Two PLIES that rise, two within that fall, with other NUMBERS two. */
-    private static PlyStacker skew(int outer, int inner) {
-        return Edges.told(8, "kind a one 9 two " + outer + " three 1 four 1 limit 1;kind b one 9 two " + inner
-            + " three 1 four 1 limit 1;", "a rise", "b fall", "b fall", "a rise");
+        for (int where = 0; where < 5; where++) Edges.due("bowed at one place", Edges.bowed(where).even(), even[where]);
+        Edges.due("not bowed", Edges.told(8, Edges.LIKE, "a rise", "b rise").even(), 2);
     }
 
     static void p10_straightInPlaneAndInBending() {
         // THICK is 28 4 4 28: A is straight where both are alike, D where the inner one is seven times the outer
-        Edges.due("A alone is straight", skew(3, 3).even(), 3);
-        Edges.due("D alone is straight", skew(3, 21).even(), 3);
-        Edges.due("near to it", skew(3, 20).even(), 3);
-        Edges.due("both are", skew(0, 0).even(), 7);
-        Edges.due("neither", skew(1, 0).even(), 3);
-        Edges.due("neither", skew(0, 1).even(), 3);
+        Edges.due("A alone is straight", Edges.skew(3, 3).even(), 3);
+        Edges.due("D alone is straight", Edges.skew(3, 21).even(), 3);
+        Edges.due("near to it", Edges.skew(3, 20).even(), 3);
+        Edges.due("both are", Edges.skew(0, 0).even(), 7);
+        Edges.due("neither", Edges.skew(1, 0).even(), 3);
+        Edges.due("neither", Edges.skew(0, 1).even(), 3);
     }
 
     static void p10_balancedByEachKind() {
@@ -248,9 +229,9 @@ public final class BoundaryStiffTest {
         Edges.due("one more rises", Edges.told(8, Edges.AA, "aa rise", "aa fall", "aa rise").even() & 8, 0);
         Edges.due("as many", Edges.told(8, Edges.AA, "aa rise", "aa fall", "aa rise", "aa fall").even() & 8, 8);
         Edges.due("one more falls", Edges.told(8, Edges.AA, "aa fall", "aa fall", "aa rise").even() & 8, 0);
-        Edges.due("together, not each", Edges.told(8, LIKE, "a rise", "b fall").even() & 8, 0);
+        Edges.due("together, not each", Edges.told(8, Edges.LIKE, "a rise", "b fall").even() & 8, 0);
         Edges.due("the last KIND", Edges.told(8, Edges.AA + Edges.BB + Edges.CC, "cc fall").even() & 8, 0);
-        Edges.due("each", Edges.told(8, LIKE, "a rise", "b fall", "a fall", "b rise").even() & 8, 8);
+        Edges.due("each", Edges.told(8, Edges.LIKE, "a rise", "b fall", "a fall", "b rise").even() & 8, 8);
     }
 
     // ---- 11, 12 ----
@@ -264,7 +245,7 @@ public final class BoundaryStiffTest {
 
     static void p11_noneAndAllNineTogether() {
         long[] bows = {16, 16, 16, 4, 8};
-        for (int where = 0; where < 5; where++) Edges.due("bowed at one place", bowed(where).warp(), bows[where]);
+        for (int where = 0; where < 5; where++) Edges.due("bowed at one place", Edges.bowed(where).warp(), bows[where]);
         Edges.due("FLAT", Edges.mirrored().warp(), 0);
         Edges.stays("by signs", Edges::uneven, x -> x.warp(), 343);
         String least = "kind a one 9 two 1 three 0 four 0 limit 1;kind b one 9 two 0 three 0 four 0 limit 1;";
@@ -279,9 +260,9 @@ public final class BoundaryStiffTest {
 
     static void p12_noneAndTheseFourTogether() {
         Edges.due("STRAIGHT", Edges.mirrored().twist(), 0);
-        Edges.due("D alone: 2 (56 - 8) 3", skew(3, 3).twist(), 2 * 48 * 3);
-        Edges.due("A alone: 2 (2 21 - 2 3)", skew(3, 21).twist(), 2 * 36);
-        Edges.due("near to it: A 34, D 8", skew(3, 20).twist(), 2 * 34 + 2 * 8);
+        Edges.due("D alone: 2 (56 - 8) 3", Edges.skew(3, 3).twist(), 2 * 48 * 3);
+        Edges.due("A alone: 2 (2 21 - 2 3)", Edges.skew(3, 21).twist(), 2 * 36);
+        Edges.due("near to it: A 34, D 8", Edges.skew(3, 20).twist(), 2 * 34 + 2 * 8);
         Edges.due("one rises", Edges.told(8, Edges.AA, "aa rise").twist(), 40);
         Edges.due("one falls", Edges.told(8, Edges.AA, "aa fall").twist(), 40);
         Edges.due("all rise", same(8, GREATEST, "g rise").twist(), 2 * 99 * (8 + 512));
@@ -338,31 +319,20 @@ public final class BoundaryStiffTest {
         x.turn(3, 1);
         Edges.due("one within", x.likes(), 3);
         Edges.stays("none", Edges::full, y -> y.likes(), 0);
-        Edges.due("of two KINDS", Edges.told(8, LIKE, "a flat", "b flat").likes(), 1);
+        Edges.due("of two KINDS", Edges.told(8, Edges.LIKE, "a flat", "b flat").likes(), 1);
     }
 
     // ---- 15, 16 ----
-
-    /** FLAT; twice A at 2 2 is one - 2, twice D there one - 26. */
-    private static PlyStacker slack(int one) {
-        return Edges.told(3, "kind a one 1 two 0 three 1 four 0 limit 1;kind b one " + one
-            + " two 0 three 0 four 0 limit 1;", "a flat", "b flat", "a flat");
-    }
-
-    /** FLAT, A: 68 32 0, 32 68 0, 0 0 42. */
-    private static PlyStacker slanted() {
-        return Edges.told(3, "kind d one 20 two 10 three 3 four 5 limit 40;", "d rise", "d fall", "d fall", "d rise");
-    }
 
     static void p15_loadsFrom999BelowTo999Above() {
         Edges.loads("strain", Edges::mirrored, (x, a, b, c) -> x.strain(a, b, c, 0, 0), Edges.NO_SUCH);
         Edges.loads("strain", Edges::mirrored, (x, a, b, c) -> x.strain(a, b, c, 2, 1), Edges.NO_SUCH);
         Edges.loads("not flat", Edges::busy, (x, a, b, c) -> x.strain(a, b, c, 1, 0), Edges.NO_SUCH);
         for (int load : new int[] {-999, 999}) {
-            Edges.stays("at 0", BoundaryStiffTest::slanted, x -> x.strain(load, load, 0, 0, 0), load);
-            Edges.stays("at 0", BoundaryStiffTest::slanted, x -> x.strain(load, load, 0, 0, 1), 100);
-            Edges.stays("at 2", BoundaryStiffTest::slanted, x -> x.strain(0, 0, load, 2, 0), load / 3);
-            Edges.stays("at 2", BoundaryStiffTest::slanted, x -> x.strain(0, 0, load, 2, 1), 14);
+            Edges.stays("at 0", () -> Edges.slanted(40), x -> x.strain(load, load, 0, 0, 0), load);
+            Edges.stays("at 0", () -> Edges.slanted(40), x -> x.strain(load, load, 0, 0, 1), 100);
+            Edges.stays("at 2", () -> Edges.slanted(40), x -> x.strain(0, 0, load, 2, 0), load / 3);
+            Edges.stays("at 2", () -> Edges.slanted(40), x -> x.strain(0, 0, load, 2, 1), 14);
         }
     }
 
@@ -382,17 +352,25 @@ public final class BoundaryStiffTest {
         Edges.stays("not flat", Edges::busy, x -> x.strain(0, 0, 0, 0, 0), NOT_FLAT);
         Edges.stays("no PLIES", Edges::empty, x -> x.strain(0, 0, 0, 0, 0), NOT_FLAT);
         for (int where = 0; where < 5; where++) {
-            Edges.due("bowed at one place", bowed(where).strain(1, 0, 0, 0, 0), NOT_FLAT);
+            Edges.due("bowed at one place", Edges.bowed(where).strain(1, 0, 0, 0, 0), NOT_FLAT);
         }
-        Edges.due("flat, not mirrored", Edges.told(8, LIKE, "a flat", "b flat").strain(0, 0, 6, 2, 0), 1);
+        Edges.due("flat, not mirrored", Edges.told(8, Edges.LIKE, "a flat", "b flat").strain(0, 0, 6, 2, 0), 1);
     }
 
     static void p15_detOfAIsZero() {
-        Edges.stays("one below", () -> slack(1), x -> x.strain(0, 0, 1, 2, 0), -2);
-        Edges.stays("it is", () -> slack(2), x -> x.strain(0, 0, 1, 2, 0), NOT_FLAT);
-        Edges.stays("it is", () -> slack(2), x -> x.strain(0, 0, 0, 0, 1), NOT_FLAT);
-        Edges.stays("one above", () -> slack(3), x -> x.strain(0, 0, 1, 2, 0), 2);
-        Edges.stays("that of D alone", () -> slack(26), x -> x.strain(0, 0, 12, 2, 0), 1);
+        Edges.stays("one below", () -> Edges.slack(1), x -> x.strain(0, 0, 1, 2, 0), -2);
+        Edges.stays("it is", () -> Edges.slack(2), x -> x.strain(0, 0, 1, 2, 0), NOT_FLAT);
+        Edges.stays("it is", () -> Edges.slack(2), x -> x.strain(0, 0, 0, 0, 1), NOT_FLAT);
+        Edges.stays("one above", () -> Edges.slack(3), x -> x.strain(0, 0, 1, 2, 0), 2);
+        Edges.stays("that of D alone", () -> Edges.slack(26), x -> x.strain(0, 0, 12, 2, 0), 1);
+    }
+
+    static void p15_detOfAIsZeroByA02() {
+        // twice A: 10 0 two, 0 10 two, two two 5
+        Edges.range("one below", () -> Edges.leaning(4), (x, what) -> x.strain(0, 0, 1, 2, what), Edges.NO_SUCH, 0, 10, 9);
+        Edges.stays("it is", () -> Edges.leaning(5), x -> x.strain(0, 0, 1, 2, 0), NOT_FLAT);
+        Edges.range("one above", () -> Edges.leaning(6), (x, what) -> x.strain(0, 0, 1, 2, what), Edges.NO_SUCH, 0, -10, 11);
+        Edges.range("0 by it", () -> Edges.leaning(4), (x, what) -> x.strain(0, 0, 1, 0, what), Edges.NO_SUCH, 0, -4, 9);
     }
 
     static void p15_noStrainIs0By1AndTheLowerNumberIsAbove0() {
@@ -401,9 +379,9 @@ public final class BoundaryStiffTest {
             Edges.range("of nothing", Edges::mirrored, (x, what) -> x.strain(0, 0, 0, at, what), Edges.NO_SUCH, 0, 0, 1);
         }
         Edges.range("of another load", Edges::mirrored, (x, what) -> x.strain(48, 0, 0, 2, what), Edges.NO_SUCH, 0, 0, 1);
-        Edges.range("DET below 0", () -> slack(1), (x, what) -> x.strain(0, 0, 1, 2, what), Edges.NO_SUCH, 0, -2, 1);
-        Edges.range("both below 0", () -> slack(1), (x, what) -> x.strain(0, 0, -1, 2, what), Edges.NO_SUCH, 0, 2, 1);
-        Edges.range("load below 0", () -> slack(3), (x, what) -> x.strain(0, 0, -1, 2, what), Edges.NO_SUCH, 0, -2, 1);
+        Edges.range("DET below 0", () -> Edges.slack(1), (x, what) -> x.strain(0, 0, 1, 2, what), Edges.NO_SUCH, 0, -2, 1);
+        Edges.range("both below 0", () -> Edges.slack(1), (x, what) -> x.strain(0, 0, -1, 2, what), Edges.NO_SUCH, 0, 2, 1);
+        Edges.range("load below 0", () -> Edges.slack(3), (x, what) -> x.strain(0, 0, -1, 2, what), Edges.NO_SUCH, 0, -2, 1);
     }
 
     static void p16_momentsFrom999BelowTo999Above() {
@@ -431,15 +409,21 @@ public final class BoundaryStiffTest {
         Edges.stays("no PLATE", Edges::bare, x -> x.bend(0, 0, 0, 0, 1), Edges.NO_SUCH);
         Edges.stays("not flat", Edges::busy, x -> x.bend(0, 0, 0, 0, 0), NOT_FLAT);
         Edges.stays("no PLIES", Edges::empty, x -> x.bend(0, 0, 0, 0, 0), NOT_FLAT);
-        for (int where = 0; where < 5; where++) Edges.due("bowed at one place", bowed(where).bend(1, 0, 0, 0, 0), NOT_FLAT);
+        for (int where = 0; where < 5; where++) Edges.due("bowed at one place", Edges.bowed(where).bend(1, 0, 0, 0, 0), NOT_FLAT);
     }
 
     static void p16_detOfDIsZero() {
-        Edges.stays("one below", () -> slack(25), x -> x.bend(0, 0, 1, 2, 0), -2);
-        Edges.stays("it is", () -> slack(26), x -> x.bend(0, 0, 1, 2, 0), NOT_FLAT);
-        Edges.stays("it is", () -> slack(26), x -> x.bend(0, 0, 0, 0, 1), NOT_FLAT);
-        Edges.stays("one above", () -> slack(27), x -> x.bend(0, 0, 1, 2, 0), 2);
-        Edges.stays("that of A alone", () -> slack(2), x -> x.bend(0, 0, 12, 2, 0), -1);
+        Edges.stays("one below", () -> Edges.slack(25), x -> x.bend(0, 0, 1, 2, 0), -2);
+        Edges.stays("it is", () -> Edges.slack(26), x -> x.bend(0, 0, 1, 2, 0), NOT_FLAT);
+        Edges.stays("it is", () -> Edges.slack(26), x -> x.bend(0, 0, 0, 0, 1), NOT_FLAT);
+        Edges.stays("one above", () -> Edges.slack(27), x -> x.bend(0, 0, 1, 2, 0), 2);
+        Edges.stays("that of A alone", () -> Edges.slack(2), x -> x.bend(0, 0, 12, 2, 0), -1);
+    }
+
+    static void p16_detOfDIsZeroByD02() {
+        Edges.range("one below", () -> Edges.leaning(4), (x, what) -> x.bend(0, 0, 1, 2, what), Edges.NO_SUCH, 0, 10, 9);
+        Edges.stays("it is", () -> Edges.leaning(5), x -> x.bend(0, 0, 1, 2, 0), NOT_FLAT);
+        Edges.range("one above", () -> Edges.leaning(6), (x, what) -> x.bend(0, 0, 1, 2, what), Edges.NO_SUCH, 0, -10, 11);
     }
 
     static void p16_noBendIs0By1AndTheLowerNumberIsAbove0() {
@@ -447,8 +431,8 @@ public final class BoundaryStiffTest {
             int at = i;
             Edges.range("of nothing", Edges::mirrored, (x, what) -> x.bend(0, 0, 0, at, what), Edges.NO_SUCH, 0, 0, 1);
         }
-        Edges.range("DET below 0", () -> slack(25), (x, what) -> x.bend(0, 0, 1, 2, what), Edges.NO_SUCH, 0, -2, 1);
-        Edges.range("both below 0", () -> slack(25), (x, what) -> x.bend(0, 0, -1, 2, what), Edges.NO_SUCH, 0, 2, 1);
+        Edges.range("DET below 0", () -> Edges.slack(25), (x, what) -> x.bend(0, 0, 1, 2, what), Edges.NO_SUCH, 0, -2, 1);
+        Edges.range("both below 0", () -> Edges.slack(25), (x, what) -> x.bend(0, 0, -1, 2, what), Edges.NO_SUCH, 0, 2, 1);
     }
 
     // ---- 17 ----
@@ -456,21 +440,21 @@ public final class BoundaryStiffTest {
     static void p17_loadsFrom999BelowTo999Above() {
         Edges.loads("factor", Edges::mirrored, (x, a, b, c) -> x.factor(a, b, c, 0), -2);
         Edges.loads("factor", Edges::busy, (x, a, b, c) -> x.factor(a, b, c, 2), -2);
-        Edges.range("999", BoundaryStiffTest::slanted, (x, what) -> x.factor(999, 999, 0, what), -2, 0, 4000, 999, 0);
-        Edges.range("-999", BoundaryStiffTest::slanted, (x, what) -> x.factor(-999, -999, 0, what), -2, 0, 4000, 999, 0);
+        Edges.range("999", () -> Edges.slanted(40), (x, what) -> x.factor(999, 999, 0, what), -2, 0, 4000, 999, 0);
+        Edges.range("-999", () -> Edges.slanted(40), (x, what) -> x.factor(-999, -999, 0, what), -2, 0, 4000, 999, 0);
     }
 
     static void p17_thereIsNoSuchWhat() {
-        Edges.range("what", BoundaryStiffTest::slanted, (x, what) -> x.factor(100, 0, -42, what), -2, 0, 40, 1, 1);
+        Edges.range("what", () -> Edges.slanted(40), (x, what) -> x.factor(100, 0, -42, what), -2, 0, 40, 1, 1);
         Edges.refusedOutside("what", Edges::busy, (x, what) -> x.factor(0, 0, 0, what), -2, 0, 2);
         Edges.refusedOutside("what", Edges::empty, (x, what) -> x.factor(0, 0, 0, what), -2, 0, 2);
     }
 
     static void p17_noPlyIsStrained() {
-        Edges.range("no load", BoundaryStiffTest::slanted, (x, what) -> x.factor(0, 0, 0, what), -2, 0, -1, -1, -1);
-        Edges.range("evened out", BoundaryStiffTest::slanted, (x, what) -> x.factor(36, -36, 0, what), -2, 0, -1, -1, -1);
-        Edges.range("one more", BoundaryStiffTest::slanted, (x, what) -> x.factor(36, -35, 0, what), -2, 0, 8000, 1, 0);
-        Edges.range("one less", BoundaryStiffTest::slanted, (x, what) -> x.factor(36, -37, 0, what), -2, 0, 8000, 1, 0);
+        Edges.range("no load", () -> Edges.slanted(40), (x, what) -> x.factor(0, 0, 0, what), -2, 0, -1, -1, -1);
+        Edges.range("evened out", () -> Edges.slanted(40), (x, what) -> x.factor(36, -36, 0, what), -2, 0, -1, -1, -1);
+        Edges.range("one more", () -> Edges.slanted(40), (x, what) -> x.factor(36, -35, 0, what), -2, 0, 8000, 1, 0);
+        Edges.range("one less", () -> Edges.slanted(40), (x, what) -> x.factor(36, -37, 0, what), -2, 0, 8000, 1, 0);
     }
 
     static void p17_withoutAPlateAndNotFlat() {
@@ -478,15 +462,15 @@ public final class BoundaryStiffTest {
         Edges.stays("no PLATE", Edges::bare, x -> x.factor(0, 0, 0, 2), -2);
         Edges.stays("not flat", Edges::busy, x -> x.factor(0, 0, 0, 0), -6);
         Edges.stays("no PLIES", Edges::empty, x -> x.factor(0, 0, 0, 2), -6);
-        for (int where = 0; where < 5; where++) Edges.due("bowed at one place", bowed(where).factor(1, 0, 0, 0), -6);
+        for (int where = 0; where < 5; where++) Edges.due("bowed at one place", Edges.bowed(where).factor(1, 0, 0, 0), -6);
     }
 
     static void p17_detOfAIsZero() {
-        Edges.stays("it is", () -> slack(2), x -> x.factor(1, 0, 0, 0), -6);
-        Edges.stays("it is", () -> slack(2), x -> x.factor(0, 0, 0, 0), -6);
-        Edges.stays("one below", () -> slack(1), x -> x.factor(0, 0, 0, 0), -1);
-        Edges.stays("one above", () -> slack(3), x -> x.factor(0, 0, 0, 0), -1);
-        Edges.stays("that of D alone", () -> slack(26), x -> x.factor(0, 0, 0, 0), -1);
+        Edges.stays("it is", () -> Edges.slack(2), x -> x.factor(1, 0, 0, 0), -6);
+        Edges.stays("it is", () -> Edges.slack(2), x -> x.factor(0, 0, 0, 0), -6);
+        Edges.stays("one below", () -> Edges.slack(1), x -> x.factor(0, 0, 0, 0), -1);
+        Edges.stays("one above", () -> Edges.slack(3), x -> x.factor(0, 0, 0, 0), -1);
+        Edges.stays("that of D alone", () -> Edges.slack(26), x -> x.factor(0, 0, 0, 0), -1);
     }
 
     /** Flat, cross, flat; A: 20 0 0, 0 20 0, 0 0 10; the LIMITS are 9 and another. */
@@ -542,6 +526,14 @@ public final class BoundaryStiffTest {
         Edges.range("DET above 0", () -> lean(0), (x, what) -> x.modulus(0, what), -2, 0, 2, 1);
         Edges.range("DET of 0", () -> lean(1), (x, what) -> x.modulus(0, what), -2, 0, 0, 1);
         Edges.range("DET below 0", () -> lean(2), (x, what) -> x.modulus(0, what), -2, 0, -2, 1);
+    }
+
+    static void p18_inLowestTermsAlready() {
+        // twice A: 2 0 3, 0 2 3, 3 3 1: DET -32 by -7
+        Edges.range("of no shared divisor", () -> Edges.told(1, "kind a one 1 two 3 three 0 four 0 limit 1;", "a rise"),
+            (x, what) -> x.modulus(0, what), -2, 0, 32, 7);
+        Edges.range("of all", () -> Edges.told(1, "kind a one 1 two 0 three 0 four 0 limit 1;", "a rise"),
+            (x, what) -> x.modulus(0, what), -2, 0, 2, 1);
     }
 
     public static void main(String[] args) {

@@ -14,6 +14,8 @@ final class Edges {
     static final String AA = "kind aa one 20 two 10 three 3 four 5 limit 40;";
     static final String BB = "kind bb one 8 two 0 three 1 four 2 limit 7;";
     static final String CC = "kind cc one 9 two 2 three 0 four 1 limit 999;";
+    /** Two KINDS with the same NUMBERS. */
+    static final String LIKE = "kind a one 9 two 2 three 1 four 1 limit 1;kind b one 9 two 2 three 1 four 1 limit 1;";
     static final String PENDING = "plate room 6;" + BB + "ply bb fall;";
 
     interface Maker {
@@ -68,6 +70,39 @@ final class Edges {
     /** Eight PLIES: as many as there may be. */
     static PlyStacker full() {
         return told(8, AA + BB, "aa flat", "aa rise", "bb cross", "aa fall", "aa flat", "aa rise", "bb cross", "aa fall");
+    }
+
+    /** Two PLIES whose B is 0 at all places but one: 0 0 (0), 1 1 (1), 0 1 (2), 2 2 (3), 0 2 (4). */
+    static PlyStacker bowed(int where) {
+        String[] a = {"10 two 4 three 0 four 0", "10 two 4 three 0 four 0", "10 two 1 three 0 four 6",
+            "10 two 1 three 0 four 0", "10 two 1 three 0 four 0"};
+        String[] b = {"13 two 0 three 1 four 1", "13 two 0 three 1 four 1", "9 two 1 three 1 four 3",
+            "9 two 1 three 1 four 1", "10 two 3 three 0 four 0"};
+        String angle = where == 0 ? " cross" : where == 4 ? " rise" : " flat";
+        return told(8, "kind a one " + a[where] + " limit 1;kind b one " + b[where] + " limit 1;", "a" + angle,
+            "b" + angle);
+    }
+
+    /** Two PLIES that rise, two within that fall, with other NUMBERS two. */
+    static PlyStacker skew(int outer, int inner) {
+        return told(8, "kind a one 9 two " + outer + " three 1 four 1 limit 1;kind b one 9 two " + inner
+            + " three 1 four 1 limit 1;", "a rise", "b fall", "b fall", "a rise");
+    }
+
+    /** FLAT; twice A at 2 2 is one - 2, twice D there one - 26. */
+    static PlyStacker slack(int one) {
+        return told(3, "kind a one 1 two 0 three 1 four 0 limit 1;kind b one " + one
+            + " two 0 three 0 four 0 limit 1;", "a flat", "b flat", "a flat");
+    }
+
+    /** FLAT, A: 68 32 0, 32 68 0, 0 0 42. */
+    static PlyStacker slanted(int limit) {
+        return told(3, "kind d one 20 two 10 three 3 four 5 limit " + limit + ";", "d rise", "d fall", "d fall", "d rise");
+    }
+
+    /** A PLY that rises, FLAT but not STRAIGHT: DET of A is 0 if two is 5, by the entries at 0 2 and 1 2 alone. */
+    static PlyStacker leaning(int two) {
+        return told(1, "kind a one 5 two " + two + " three 0 four 0 limit 9;", "a rise");
     }
 
     static PlyStacker none() {
