@@ -303,6 +303,21 @@ public final class BoundaryOrdersTest {
             () -> Edges.told(1, Edges.AA, "aa rise", "aa flat", "aa flat", "aa flat", "aa rise"), x -> x.nearest(0), 4);
     }
 
+    /** A RUN of two within; the FLAT ones without such a RUN, four of them, have another TYPE at each place. */
+    private static PlyStacker farthest() {
+        return Edges.told(1, "kind b one 3 two 0 three 2 four 0 limit 1;kind c one 6 two 2 three 0 four 2 limit 1;",
+            "b rise", "c flat", "b fall", "c flat", "c flat", "b fall", "c flat", "b rise");
+    }
+
+    static void p24_allEight() {
+        Edges.stays("FLAT ones", BoundaryOrdersTest::farthest, x -> x.orders(2), 4);
+        Edges.stays("all eight", BoundaryOrdersTest::farthest, x -> x.nearest(2), 8);
+    }
+
+    static void p25_allEight() {
+        Edges.stays("the first of four", BoundaryOrdersTest::farthest, x -> x.nearestAt(2), 0);
+    }
+
     static void p25_masksAndNoPlate() {
         Edges.range("nearestAt", Edges::mirrored, (x, mask) -> x.nearestAt(mask), -2, 0, 2, 0, 0, 0, 2, 0, 0, 0);
         Edges.range("no PLIES", Edges::empty, (x, mask) -> x.nearestAt(mask), -2, 0, 0, 0, 0, 0, 0, 0, 0, 0);
