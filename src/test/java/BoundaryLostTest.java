@@ -69,6 +69,31 @@ public final class BoundaryLostTest {
         noPlate(x -> x.frailSet(0, 0, 0), -2);
     }
 
+    /** As three(), behind a KIND of which there are no PLIES and whose LIMIT is the least. */
+    private static PlyStacker behindAnother() {
+        return Edges.told(3, "kind z one 1 two 0 three 0 four 0 limit 1;kind s one 1 two 0 three 0 four 0 limit 100;",
+            "s flat", "s flat", "s flat");
+    }
+
+    static void p33_aKindWithoutPlies() {
+        Edges.stays("at LIMITS", BoundaryLostTest::behindAnother, x -> x.frail(300, 0, 0), 1);
+        Edges.stays("beyond", BoundaryLostTest::behindAnother, x -> x.frail(301, 0, 0), 0);
+    }
+
+    static void p34_aKindWithoutPlies() {
+        Edges.stays("two", BoundaryLostTest::behindAnother, x -> x.frailSet(200, 0, 0), 3);
+        Edges.stays("one", BoundaryLostTest::behindAnother, x -> x.frailSet(201, 0, 0), 1);
+    }
+
+    static void p35_aKindWithoutPlies() {
+        Edges.stays("at LIMITS", BoundaryLostTest::behindAnother, x -> x.carries(0), 300);
+    }
+
+    static void p40_aKindWithoutPlies() {
+        Edges.stays("at LIMITS", BoundaryLostTest::behindAnother, x -> x.spared(200, 0, 0), 7);
+        Edges.stays("beyond", BoundaryLostTest::behindAnother, x -> x.spared(201, 0, 0), 0);
+    }
+
     // ---- 35 ----
 
     static void p35_loadsFrom0To999() {

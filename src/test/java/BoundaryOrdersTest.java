@@ -86,7 +86,7 @@ public final class BoundaryOrdersTest {
     static void p19_flatButNotMirrored() {
         Edges.range("two KINDS alike", () -> Edges.told(8, Edges.LIKE, "a flat", "b flat"), (x, mask) -> x.orders(mask), -2,
             0, 2, 0, 2, 0, 2, 0, 2, 0);
-        for (int where = 0; where < 5; where++) {
+        for (int where = 0; where < 6; where++) {
             Edges.due("bowed at one place", Edges.bowed(where).orders(2), 0);
             Edges.due("bowed at one place", Edges.bowed(where).orders(0), 2);
         }

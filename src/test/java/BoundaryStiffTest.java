@@ -209,8 +209,8 @@ public final class BoundaryStiffTest {
     }
 
     static void p10_flatAtAllPlaces() {
-        int[] even = {12, 12, 12, 12, 0};
-        for (int where = 0; where < 5; where++) Edges.due("bowed at one place", Edges.bowed(where).even(), even[where]);
+        int[] even = {12, 12, 12, 12, 0, 0};
+        for (int where = 0; where < 6; where++) Edges.due("bowed at one place", Edges.bowed(where).even(), even[where]);
         Edges.due("not bowed", Edges.told(8, Edges.LIKE, "a rise", "b rise").even(), 2);
     }
 
@@ -244,8 +244,8 @@ public final class BoundaryStiffTest {
     }
 
     static void p11_noneAndAllNineTogether() {
-        long[] bows = {16, 16, 16, 4, 8};
-        for (int where = 0; where < 5; where++) Edges.due("bowed at one place", Edges.bowed(where).warp(), bows[where]);
+        long[] bows = {16, 16, 16, 4, 8, 4};
+        for (int where = 0; where < 6; where++) Edges.due("bowed at one place", Edges.bowed(where).warp(), bows[where]);
         Edges.due("FLAT", Edges.mirrored().warp(), 0);
         Edges.stays("by signs", Edges::uneven, x -> x.warp(), 343);
         String least = "kind a one 9 two 1 three 0 four 0 limit 1;kind b one 9 two 0 three 0 four 0 limit 1;";
@@ -351,7 +351,7 @@ public final class BoundaryStiffTest {
         Edges.stays("no PLATE", Edges::bare, x -> x.strain(0, 0, 0, 0, 1), Edges.NO_SUCH);
         Edges.stays("not flat", Edges::busy, x -> x.strain(0, 0, 0, 0, 0), NOT_FLAT);
         Edges.stays("no PLIES", Edges::empty, x -> x.strain(0, 0, 0, 0, 0), NOT_FLAT);
-        for (int where = 0; where < 5; where++) {
+        for (int where = 0; where < 6; where++) {
             Edges.due("bowed at one place", Edges.bowed(where).strain(1, 0, 0, 0, 0), NOT_FLAT);
         }
         Edges.due("flat, not mirrored", Edges.told(8, Edges.LIKE, "a flat", "b flat").strain(0, 0, 6, 2, 0), 1);
@@ -371,6 +371,12 @@ public final class BoundaryStiffTest {
         Edges.stays("it is", () -> Edges.leaning(5), x -> x.strain(0, 0, 1, 2, 0), NOT_FLAT);
         Edges.range("one above", () -> Edges.leaning(6), (x, what) -> x.strain(0, 0, 1, 2, what), Edges.NO_SUCH, 0, -10, 11);
         Edges.range("0 by it", () -> Edges.leaning(4), (x, what) -> x.strain(0, 0, 1, 0, what), Edges.NO_SUCH, 0, -4, 9);
+    }
+
+    static void p15_unlikeStiffAlongBothAndNotStraight() {
+        // twice A: 36 0 6, 0 24 6, 6 6 15; DET 10800
+        Edges.range("i", () -> Edges.told(3, "kind a one 5 two 3 three 0 four 0 limit 9;", "a rise", "a flat", "a rise"),
+            (x, what) -> x.strain(0, 0, 1, 2, what), Edges.NO_SUCH, 0, 4, 25);
     }
 
     static void p15_noStrainIs0By1AndTheLowerNumberIsAbove0() {
@@ -409,7 +415,7 @@ public final class BoundaryStiffTest {
         Edges.stays("no PLATE", Edges::bare, x -> x.bend(0, 0, 0, 0, 1), Edges.NO_SUCH);
         Edges.stays("not flat", Edges::busy, x -> x.bend(0, 0, 0, 0, 0), NOT_FLAT);
         Edges.stays("no PLIES", Edges::empty, x -> x.bend(0, 0, 0, 0, 0), NOT_FLAT);
-        for (int where = 0; where < 5; where++) Edges.due("bowed at one place", Edges.bowed(where).bend(1, 0, 0, 0, 0), NOT_FLAT);
+        for (int where = 0; where < 6; where++) Edges.due("bowed at one place", Edges.bowed(where).bend(1, 0, 0, 0, 0), NOT_FLAT);
     }
 
     static void p16_detOfDIsZero() {
@@ -462,7 +468,7 @@ public final class BoundaryStiffTest {
         Edges.stays("no PLATE", Edges::bare, x -> x.factor(0, 0, 0, 2), -2);
         Edges.stays("not flat", Edges::busy, x -> x.factor(0, 0, 0, 0), -6);
         Edges.stays("no PLIES", Edges::empty, x -> x.factor(0, 0, 0, 2), -6);
-        for (int where = 0; where < 5; where++) Edges.due("bowed at one place", Edges.bowed(where).factor(1, 0, 0, 0), -6);
+        for (int where = 0; where < 6; where++) Edges.due("bowed at one place", Edges.bowed(where).factor(1, 0, 0, 0), -6);
     }
 
     static void p17_detOfAIsZero() {

@@ -175,6 +175,11 @@ public final class BoundaryThinTest {
         Edges.refusedOutside("of eight", Edges::full, (x, set) -> x.comes(0, 1, set), -2, 1, 255);
     }
 
+    static void p31_toEachSet() {
+        Edges.range("set", () -> flats(4, 8), (x, set) -> x.comes(7, 1, set), -2, 1,
+            1, 1, 1, 1, 1, 1, 1, 1, 1, 1, 1, 1, 1, 1, 1);
+    }
+
     static void p31_oneToThreeDropped() {
         strides("to the inner ones", (x, d) -> x.count(2) == 0 ? x.blend(1, d) : x.comes(1, d, 6), 0, 1, 1);
         Edges.refusedOutside("d", Edges::mirrored, (x, d) -> x.comes(1, d, 15), -2, 1, 3);
@@ -226,6 +231,14 @@ public final class BoundaryThinTest {
         // one PLY is come to as soon from above as from below; a nearer set comes ahead of a lesser one
         way(() -> Edges.told(8, Edges.AA, "aa rise", "aa fall", "aa flat", "aa rise", "aa fall"), 4, 3, 31, 14, 4);
         way(() -> Edges.told(1, Edges.AA, "aa flat", "aa rise", "aa cross", "aa fall", "aa cross"), 4, 2, 31, 14, 4);
+    }
+
+    static void p32_aheadOfEachTheLeastSet() {
+        // the inner four are STRAIGHT with the lowest PLY, with the highest, with both and with none of them
+        Edges.Maker maker = () -> Edges.told(8, "kind a one 9 two 1 three 0 four 0 limit 1;"
+            + "kind b one 9 two 3 three 0 four 0 limit 1;", "a flat", "a rise", "b fall", "b rise", "a fall", "a flat");
+        way(maker, 4, 1, 63, 31, 30);
+        Edges.stays("the greater one", maker, x -> x.comes(4, 1, 62), 1);
     }
 
     static void p32_masksAndNoPlate() {

@@ -72,13 +72,13 @@ final class Edges {
         return told(8, AA + BB, "aa flat", "aa rise", "bb cross", "aa fall", "aa flat", "aa rise", "bb cross", "aa fall");
     }
 
-    /** Two PLIES whose B is 0 at all places but one: 0 0 (0), 1 1 (1), 0 1 (2), 2 2 (3), 0 2 (4). */
+    /** Two PLIES whose B is 0 at all places but one: 0 0 (0), 1 1 (1), 0 1 (2), 2 2 (3, 5), 0 2 (4). */
     static PlyStacker bowed(int where) {
         String[] a = {"10 two 4 three 0 four 0", "10 two 4 three 0 four 0", "10 two 1 three 0 four 6",
-            "10 two 1 three 0 four 0", "10 two 1 three 0 four 0"};
+            "10 two 1 three 0 four 0", "10 two 1 three 0 four 0", "5 two 1 three 0 four 4"};
         String[] b = {"13 two 0 three 1 four 1", "13 two 0 three 1 four 1", "9 two 1 three 1 four 3",
-            "9 two 1 three 1 four 1", "10 two 3 three 0 four 0"};
-        String angle = where == 0 ? " cross" : where == 4 ? " rise" : " flat";
+            "9 two 1 three 1 four 1", "10 two 3 three 0 four 0", "6 two 1 three 1 four 3"};
+        String angle = where == 0 ? " cross" : where >= 4 ? " rise" : " flat";
         return told(8, "kind a one " + a[where] + " limit 1;kind b one " + b[where] + " limit 1;", "a" + angle,
             "b" + angle);
     }
