@@ -33,6 +33,17 @@ public final class BoundaryActsTest {
         Edges.due("count(3)", x.count(3), 30);
     }
 
+    /** What is an act: it counts as one, it leaves IMAGES, TAPE and FAULT alone, and undo() takes it back. */
+    private static void isAnAct(String what, Edges.Call act, long want) {
+        PlyStacker x = Edges.busy();
+        Edges.due(what, act.on(x), want);
+        Edges.due("acts", x.count(3), 5);
+        Edges.due("KINDS", x.count(1), 2);
+        Edges.due("LINES", x.count(4), 7);
+        Edges.leavesElse(what, Edges::busy, act);
+        Edges.stays(what + " taken back", Edges::busy, y -> act.on(y) == want ? y.undo() : -9, 4);
+    }
+
     // ---- 42 ----
 
     static void p42_thereIsNoSuchKind() {
@@ -88,6 +99,10 @@ public final class BoundaryActsTest {
         Edges.types(x, 4, 0);
     }
 
+    static void p43_isAnAct() {
+        isAnAct("swap", x -> x.swap(0, 3), 0);
+    }
+
     static void p43_thirtyActs() {
         upTo30("swap", x -> x.swap(0, 3), 0);
     }
@@ -124,6 +139,10 @@ public final class BoundaryActsTest {
                 }
             }
         }
+    }
+
+    static void p44_isAnAct() {
+        isAnAct("turn", x -> x.turn(0, 1), 3);
     }
 
     static void p44_thirtyActs() {
@@ -175,6 +194,10 @@ public final class BoundaryActsTest {
         }
     }
 
+    static void p45_isAnAct() {
+        isAnAct("put", x -> x.put(2, 0, 3), 5);
+    }
+
     static void p45_thirtyActs() {
         upTo30("put", x -> x.put(4, 1, 1), 5);
     }
@@ -202,6 +225,10 @@ public final class BoundaryActsTest {
         Edges.refusedOutside("no PLIES", Edges::empty, (y, ply) -> y.drop(ply), -2, 0, -1);
         Edges.due("drop", x.drop(0), -2);
         Edges.due("count(3)", x.count(3), 8);
+    }
+
+    static void p46_isAnAct() {
+        isAnAct("drop", x -> x.drop(1), 3);
     }
 
     static void p46_thirtyActs() {
@@ -242,6 +269,10 @@ public final class BoundaryActsTest {
         Edges.stays("no PLIES", Edges::empty, x -> x.become(7, 1), -1);
     }
 
+    static void p47_isAnAct() {
+        isAnAct("become", x -> x.become(0, 0), 3);
+    }
+
     static void p47_thirtyActs() {
         upTo30("become", x -> x.become(0, 0), 2);
         Edges.stays("not so many behind 30", () -> acted(30), x -> x.become(0, 24), -1);
@@ -280,6 +311,10 @@ public final class BoundaryActsTest {
         Edges.stays("all of one", () -> Edges.told(1, Edges.AA, "aa flat"), x -> x.keep(1), -5);
     }
 
+    static void p48_isAnAct() {
+        isAnAct("keep", x -> x.keep(5), 2);
+    }
+
     static void p48_thirtyActs() {
         upTo30("keep", x -> x.keep(9), 2);
     }
@@ -302,6 +337,10 @@ public final class BoundaryActsTest {
         Edges.stays("it is so", Edges::busy, x -> x.room(5), -5);
         Edges.stays("it is so", () -> Edges.told(1, ""), x -> x.room(1), -5);
         Edges.stays("it is so", Edges::full, x -> x.room(8), -5);
+    }
+
+    static void p49_isAnAct() {
+        isAnAct("room", x -> x.room(8), 0);
     }
 
     static void p49_thirtyActs() {
@@ -340,6 +379,10 @@ public final class BoundaryActsTest {
         Edges.due("one", Edges.told(1, Edges.AA, "aa flat").whirl(2), 1);
     }
 
+    static void p50_isAnAct() {
+        isAnAct("whirl", x -> x.whirl(1), 4);
+    }
+
     static void p50_thirtyActs() {
         upTo30("whirl", x -> x.whirl(2), 4);
     }
@@ -362,6 +405,10 @@ public final class BoundaryActsTest {
         Edges.types(x, 1, 7, 2, 0, 1, 7, 2, 0);
         Edges.due("count(3)", x.count(3), 1);
         noPlate(y -> y.upset());
+    }
+
+    static void p51_isAnAct() {
+        isAnAct("upset", x -> x.upset(), 4);
     }
 
     static void p51_thirtyActs() {
@@ -492,6 +539,25 @@ public final class BoundaryActsTest {
         Edges.types(x, 0, 1, 7, 2, 4);
     }
 
+    static void p54_plateKindsLinesAndActs() {
+        PlyStacker x = Edges.busy();
+        Edges.due("back(2)", x.back(2), 0);
+        int[] counts = {4, 1, 2, 1, 4, Edges.PENDING.length()};
+        for (int what = 0; what < 6; what++) Edges.due("count(" + what + ")", x.count(what), counts[what]);
+        Edges.due("its KIND", x.kind(0, 4), 999);
+        Edges.due("no other KIND", x.kind(1, 0), -2);
+        Edges.due("its act", x.undo(), 0);
+        Edges.types(x, 1, 3);
+        Edges.due("back(2) again", x.back(2), 0);
+        Edges.types(x, 3, 2);
+        Edges.due("its act again", x.count(3), 1);
+        Edges.due("back(0)", x.back(0), 0);
+        int[] others = {3, 2, 5, 1, 7, Edges.PENDING.length()};
+        for (int what = 0; what < 6; what++) Edges.due("count(" + what + ")", x.count(what), others[what]);
+        Edges.leavesElse("back(2)", Edges::busy, y -> y.back(2));
+        Edges.leavesElse("back(0)", Edges::busy, y -> y.back(0));
+    }
+
     static void p54_itHasNothing() {
         Edges.stays("nothing", Edges::busy, x -> x.back(1), -6);
         for (int k = 0; k < 3; k++) {
@@ -584,6 +650,16 @@ public final class BoundaryActsTest {
         compare(36, maker, 2, 2, 1);
     }
 
+    static void p36_byTypesNotByAngles() {
+        // 0 1 7 2: a flat PLY of the other KIND, alone and behind one that is there
+        Edges.Maker maker = images(x -> x.keep(1) + x.put(1, 1, 0) + x.drop(0), x -> x.keep(1) + x.put(1, 1, 1));
+        compare(36, maker, 1, 0, 0);
+        compare(36, maker, 2, 0, 0);
+        maker = images(x -> x.keep(4), x -> x.keep(4) + x.put(1, 0, 3) + x.drop(0));
+        compare(36, maker, 1, 0, 1);
+        compare(36, maker, 2, 0, 0);
+    }
+
     static void p36_inTheirOrderByTypes() {
         Edges.Maker maker = images(x -> x.keep(0b1010), x -> x.keep(0b1010) + x.swap(0, 1));
         compare(36, maker, 1, 0, 1);
@@ -626,6 +702,35 @@ public final class BoundaryActsTest {
         Edges.due("all but the last", x.common(1, 0), 7);
     }
 
+    static void p37_byTypesNotByAngles() {
+        Edges.Maker maker = images(x -> x.keep(1) + x.put(1, 1, 0) + x.drop(0), x -> x.keep(1) + x.put(1, 1, 1));
+        compare(37, maker, 0, 1, 0);
+        compare(37, maker, 0, 2, 1);
+        compare(37, maker, 1, 2, 0);
+    }
+
+    static void p37_inTheirOrderNotInOnePiece() {
+        // 0 1 7 2 with 0 2: both ends; with 2 7 1 0: one of them; with 7 0 2 1: two that are not neighbours
+        Edges.Maker maker = images(x -> x.keep(9), x -> x.swap(0, 3) + x.swap(1, 2));
+        compare(37, maker, 0, 1, 2);
+        compare(37, maker, 1, 0, 2);
+        compare(37, maker, 0, 2, 1);
+        maker = images(x -> x.swap(0, 2) + x.swap(1, 2) + x.swap(2, 3), x -> x.room(8));
+        compare(37, maker, 0, 1, 2);
+        compare(37, maker, 2, 1, 2);
+    }
+
+    static void p55_asManyPlies() {
+        // a PLY of TYPE 0 more or less must not be taken for none
+        Edges.Maker maker = images(x -> x.keep(1), x -> x.keep(1) + x.drop(0));
+        compare(55, maker, 1, 2, 0);
+        compare(55, maker, 2, 1, 0);
+        maker = images(x -> x.keep(1), x -> x.keep(1) + x.put(0, 0, 0));
+        compare(55, maker, 1, 2, 0);
+        compare(55, maker, 2, 1, 0);
+        compare(55, maker, 2, 2, 1);
+    }
+
     static void p55_noSuchImages() {
         noSuchImages(55);
     }
@@ -658,6 +763,14 @@ public final class BoundaryActsTest {
         Edges.due("the only one", x.undo(), 0);
         Edges.due("none then", x.undo(), -5);
         Edges.due("ROOM", x.count(0), 3);
+    }
+
+    static void p56_nothingElse() {
+        Edges.leavesElse("undo()", Edges::busy, x -> x.undo());
+        PlyStacker x = Edges.busy();
+        x.undo();
+        Edges.due("KINDS", x.count(1), 2);
+        Edges.due("LINES", x.count(4), 7);
     }
 
     static void p56_noPlate() {
@@ -711,6 +824,19 @@ public final class BoundaryActsTest {
         }
         PlyStacker x = Edges.busy();
         Edges.due("anew()", x.anew(), 4);
+        Edges.types(x, 0, 1, 7, 2);
+    }
+
+    static void p57_nothingElse() {
+        Edges.leavesElse("anew()", Edges::busy, x -> x.anew());
+        PlyStacker x = Edges.busy();
+        x.anew();
+        Edges.due("KINDS", x.count(1), 2);
+        Edges.due("LINES", x.count(4), 7);
+        Edges.due("ROOM", x.count(0), 3);
+        Edges.due("an act again", x.swap(0, 1), 0);
+        Edges.due("acts", x.count(3), 1);
+        Edges.due("undo()", x.undo(), 0);
         Edges.types(x, 0, 1, 7, 2);
     }
 

@@ -14,7 +14,73 @@ public final class BoundaryLostTest {
         Edges.stays("no PLATE", Edges::bare, call, refusal);
     }
 
+    private static final String[] ANGLES = {"flat", "rise", "fall", "cross"};
+
+    /** So many PLIES of one ANGLE; twice A of each: 10 0 0, 0 10 0, 0 0 5; the LIMIT is 9. */
+    private static PlyStacker inclined(int angle, int n) {
+        String[] plies = new String[n];
+        java.util.Arrays.fill(plies, "s " + ANGLES[angle]);
+        return Edges.told(8, "kind s one 5 two 0 three 0 four 0 limit 9;", plies);
+    }
+
+    /**
+     * For each ANGLE loads on one PLY of inclined(), and 1 if they are within LIMITS: STRAINS are the loads by 5, 5
+     * and two and a half.
+     */
+    private static final int[][][] WITHIN = {
+        {{45, 999, 999, 1}, {46, 0, 0, 0}, {-45, -999, 999, 1}, {-46, 0, 0, 0}},
+        {{45, 45, 0, 1}, {45, 46, 0, 0}, {0, 0, 45, 1}, {0, 0, 46, 0}, {45, 0, 45, 0}, {45, 0, -45, 1}, {0, 45, 45, 0},
+            {0, 45, -45, 1}, {45, -46, 0, 1}, {-45, -46, 0, 0}},
+        {{45, 45, 0, 1}, {45, 46, 0, 0}, {0, 0, -45, 1}, {0, 0, -46, 0}, {45, 0, 45, 1}, {45, 0, -45, 0}, {0, 45, 45, 1},
+            {0, 45, -45, 0}, {45, -46, 0, 1}, {-45, -46, 0, 0}},
+        {{999, 45, 999, 1}, {0, 46, 0, 0}, {-999, -45, 999, 1}, {0, -46, 0, 0}}};
+
     // ---- 33, 34 ----
+
+    static void p33_eachAngleAlongItself() {
+        for (int angle = 0; angle < 4; angle++) {
+            PlyStacker x = inclined(angle, 1);
+            for (int[] row : WITHIN[angle]) Edges.due(ANGLES[angle], x.frail(row[0], row[1], row[2]), row[3]);
+        }
+    }
+
+    static void p34_eachAngleAlongItself() {
+        for (int angle = 0; angle < 4; angle++) {
+            PlyStacker x = inclined(angle, 1);
+            for (int[] row : WITHIN[angle]) Edges.due(ANGLES[angle], x.frailSet(row[0], row[1], row[2]), row[3]);
+        }
+    }
+
+    static void p35_eachAngleAlongItself() {
+        int[][] due = {{45, 999}, {90, 90}, {90, 90}, {999, 45}};
+        for (int k = 0; k < 4; k++) {
+            int angle = k;
+            Edges.range(ANGLES[k], () -> inclined(angle, 1), (x, axis) -> x.carries(axis), -2, 0, due[k][0], due[k][1]);
+        }
+    }
+
+    static void p40_eachAngleAlongItself() {
+        for (int angle = 0; angle < 4; angle++) {
+            PlyStacker x = inclined(angle, 2);
+            for (int[] row : WITHIN[angle]) Edges.due(ANGLES[angle], x.spared(row[0], row[1], row[2]), 3 * row[3]);
+        }
+    }
+
+    static void p33_detOf0ByA02() {
+        Edges.stays("one below", () -> Edges.leaning(4), x -> x.frail(0, 0, 0), 1);
+        Edges.stays("it is", () -> Edges.leaning(5), x -> x.frail(0, 0, 0), 0);
+        Edges.stays("one above", () -> Edges.leaning(6), x -> x.frail(0, 0, 0), 1);
+    }
+
+    static void p40_detOf0ByA02() {
+        int[] due = {3, 1, 3};
+        for (int k = 0; k < 3; k++) {
+            int two = 4 + k;
+            Edges.stays("two " + two, () -> Edges.told(8, "kind a one 5 two " + two
+                + " three 0 four 0 limit 9;kind b one 9 two 2 three 0 four 0 limit 9;", "a rise", "b flat"),
+                x -> x.spared(0, 0, 0), due[k]);
+        }
+    }
 
     static void p33_beyondLimitsByOne() {
         int[][] due = {{0, 3}, {99, 3}, {100, 3}, {101, 2}, {199, 2}, {200, 2}, {201, 1}, {299, 1}, {300, 1}, {301, 0},
@@ -67,6 +133,34 @@ public final class BoundaryLostTest {
         Edges.loads("frailSet", Edges::mirrored, (x, a, b, c) -> x.frailSet(a, b, c), -2);
         Edges.loads("frailSet", Edges::busy, (x, a, b, c) -> x.frailSet(a, b, c), -2);
         noPlate(x -> x.frailSet(0, 0, 0), -2);
+    }
+
+    /** Twice A at 0 0 is 2 2 4: without PLY 2 a load is borne as without PLIES 0 and 1. */
+    private static PlyStacker uneasy() {
+        return Edges.told(3, "kind s one 1 two 0 three 0 four 0 limit 100;kind b one 2 two 0 three 0 four 0 limit 100;",
+            "s flat", "s flat", "b flat");
+    }
+
+    static void p33_theFewestNotTheLeastSet() {
+        Edges.stays("at LIMITS", BoundaryLostTest::uneasy, x -> x.frail(200, 0, 0), 2);
+        Edges.stays("beyond", BoundaryLostTest::uneasy, x -> x.frail(201, 0, 0), 1);
+    }
+
+    static void p34_theFewestNotTheLeastSet() {
+        Edges.stays("at LIMITS", BoundaryLostTest::uneasy, x -> x.frailSet(200, 0, 0), 5);
+        Edges.stays("beyond", BoundaryLostTest::uneasy, x -> x.frailSet(201, 0, 0), 4);
+    }
+
+    static void p33_flatOrNot() {
+        Edges.stays("not FLAT", Edges::uneven, x -> x.frail(1, 1, 1), 4);
+        Edges.stays("not FLAT", Edges::uneven, x -> x.frail(0, 358, 0), 1);
+        Edges.stays("not FLAT", Edges::uneven, x -> x.frail(0, 359, 0), 0);
+    }
+
+    static void p35_besideTheAxisAndNotStraight() {
+        // by a load of 1 along 0: rise 40 by 4192, flat 189 by 4192; along 1: 72 by 4192, 79 by 4192
+        Edges.range("by the flat ones", () -> Edges.tilted(4, 3), (x, axis) -> x.carries(axis), -2, 0, 66, 159);
+        Edges.range("by those that rise", () -> Edges.tilted(1, 99), (x, axis) -> x.carries(axis), -2, 0, 104, 58);
     }
 
     /** As three(), behind a KIND of which there are no PLIES and whose LIMIT is the least. */

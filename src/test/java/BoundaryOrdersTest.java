@@ -92,6 +92,15 @@ public final class BoundaryOrdersTest {
         }
     }
 
+    static void p19_mirroredByEachPair() {
+        Edges.stays("one pair of two", () -> Edges.told(8, Edges.AA, "aa flat", "aa rise", "aa cross", "aa flat"),
+            x -> x.orders(1), 0);
+        Edges.stays("two pairs", () -> Edges.told(8, Edges.AA, "aa flat", "aa rise", "aa rise", "aa flat"),
+            x -> x.orders(1), 2);
+        Edges.stays("two pairs and one", () -> Edges.told(8, Edges.AA, "aa flat", "aa rise", "aa cross", "aa rise", "aa flat"),
+            x -> x.orders(1), 2);
+    }
+
     static void p19_straightInPlaneAndInBending() {
         Edges.due("A always is, D with one of each outside", Edges.skew(3, 3).orders(4), 4);
         Edges.due("D can be, A never is", Edges.skew(3, 21).orders(4), 0);
@@ -249,6 +258,17 @@ public final class BoundaryOrdersTest {
             Edges.stays("a RUN too long", () -> flats(3, 2), x -> x.best(0, which), -1);
             Edges.stays("a RUN at ROOM", () -> flats(3, 3), x -> x.best(0, which), 0);
         }
+    }
+
+    static void p22_likesByAnglesNotByTypes() {
+        // 0 4 5 has two flat ones on one another, 0 5 4 has not
+        Edges.stays("the second", () -> Edges.told(8, Edges.AA + Edges.BB, "aa flat", "bb flat", "bb rise"),
+            x -> x.best(0, 3), 1);
+    }
+
+    static void p23_likesByAnglesNotByTypes() {
+        Edges.stays("one", () -> Edges.told(8, Edges.AA + Edges.BB, "aa flat", "bb flat"), x -> x.bestBy(0, 3), 1);
+        Edges.stays("none", () -> Edges.told(8, Edges.AA + Edges.BB, "aa flat", "bb flat", "bb rise"), x -> x.bestBy(0, 3), 0);
     }
 
     static void p23_thereIsNoSuchWhat() {

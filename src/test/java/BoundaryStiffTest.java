@@ -46,6 +46,19 @@ public final class BoundaryStiffTest {
         }
     }
 
+    static void p07_ofItsOwnKindAloneAsThePlateIs() {
+        PlyStacker x = Edges.told(8, Edges.AA + Edges.BB + Edges.CC, "aa cross", "bb flat", "bb rise", "bb fall", "bb cross",
+            "cc flat", "cc flat", "cc cross");
+        int[] due = {1, 4, 3};
+        for (int kind = 0; kind < 3; kind++) Edges.due("of KIND " + kind, x.kind(kind, 5), due[kind]);
+        x.drop(4);
+        Edges.due("dropped", x.kind(1, 5), 3);
+        x.put(0, 0, 0);
+        Edges.due("put in", x.kind(0, 5), 2);
+        x.anew();
+        for (int kind = 0; kind < 3; kind++) Edges.due("of KIND " + kind, x.kind(kind, 5), due[kind]);
+    }
+
     static void p07_leastAndGreatestNumbers() {
         PlyStacker x = Edges.told(1, "kind a one 1 two 0 three 0 four 0 limit 1;kind b one 99 two 99 three 99 four 99 limit 999;");
         int[] least = {1, 0, 0, 0, 1};
@@ -379,6 +392,24 @@ public final class BoundaryStiffTest {
             (x, what) -> x.strain(0, 0, 1, 2, what), Edges.NO_SUCH, 0, 4, 25);
     }
 
+    private static final long[][][] STRAINS = {{{189, 4192}, {-79, 4192}, {-15, 2096}},
+        {{-79, 4192}, {277, 4192}, {-27, 2096}}, {{-15, 2096}, {-27, 2096}, {101, 1048}}};
+    private static final long[][][] BENDS = {{{2265, 391744}, {-1363, 391744}, {-231, 195872}},
+        {{-1363, 391744}, {2593, 391744}, {-315, 195872}}, {{-231, 195872}, {-315, 195872}, {737, 97936}}};
+
+    static void p15_eachStrainByEachLoad() {
+        long[][] together = {{6425, 1048}, {-19875, 1048}, {16125, 524}};
+        PlyStacker x = Edges.tilted(40, 25);
+        for (int i = 0; i < 3; i++) {
+            for (int what = 0; what < 2; what++) {
+                Edges.due("by load 0", x.strain(1, 0, 0, i, what), STRAINS[0][i][what]);
+                Edges.due("by load 1", x.strain(0, 1, 0, i, what), STRAINS[1][i][what]);
+                Edges.due("by load 2", x.strain(0, 0, 1, i, what), STRAINS[2][i][what]);
+                Edges.due("by all", x.strain(100, -200, 300, i, what), together[i][what]);
+            }
+        }
+    }
+
     static void p15_noStrainIs0By1AndTheLowerNumberIsAbove0() {
         for (int i = 0; i < 3; i++) {
             int at = i;
@@ -432,6 +463,19 @@ public final class BoundaryStiffTest {
         Edges.range("one above", () -> Edges.leaning(6), (x, what) -> x.bend(0, 0, 1, 2, what), Edges.NO_SUCH, 0, -10, 11);
     }
 
+    static void p16_eachBendByEachMoment() {
+        long[][] together = {{90125, 97936}, {-210975, 97936}, {120525, 48968}};
+        PlyStacker x = Edges.tilted(40, 25);
+        for (int i = 0; i < 3; i++) {
+            for (int what = 0; what < 2; what++) {
+                Edges.due("by moment 0", x.bend(1, 0, 0, i, what), BENDS[0][i][what]);
+                Edges.due("by moment 1", x.bend(0, 1, 0, i, what), BENDS[1][i][what]);
+                Edges.due("by moment 2", x.bend(0, 0, 1, i, what), BENDS[2][i][what]);
+                Edges.due("by all", x.bend(100, -200, 300, i, what), together[i][what]);
+            }
+        }
+    }
+
     static void p16_noBendIs0By1AndTheLowerNumberIsAbove0() {
         for (int i = 0; i < 3; i++) {
             int at = i;
@@ -479,6 +523,13 @@ public final class BoundaryStiffTest {
         Edges.stays("that of D alone", () -> Edges.slack(26), x -> x.factor(0, 0, 0, 0), -1);
     }
 
+    static void p17_detOfAIsZeroByA02() {
+        // half of STRAINS together is 1 by 18, 1 by 22, the LIMIT is 9
+        Edges.range("one below", () -> Edges.leaning(4), (x, what) -> x.factor(1, 0, 0, what), -2, 0, 162, 1, 0);
+        Edges.stays("it is", () -> Edges.leaning(5), x -> x.factor(1, 0, 0, 0), -6);
+        Edges.range("one above", () -> Edges.leaning(6), (x, what) -> x.factor(1, 0, 0, what), -2, 0, 198, 1, 0);
+    }
+
     /** Flat, cross, flat; A: 20 0 0, 0 20 0, 0 0 10; the LIMITS are 9 and another. */
     private static PlyStacker crossed(int limit) {
         return Edges.told(3, "kind a one 5 two 5 three 0 four 0 limit 9;kind b one 10 two 10 three 0 four 0 limit " + limit
@@ -496,6 +547,21 @@ public final class BoundaryStiffTest {
         Edges.range("the cross one alone", () -> crossed(999), (x, what) -> x.factor(0, 20, 0, what), -2, 0, 999, 1, 1);
         Edges.range("the flat ones alone", () -> crossed(1), (x, what) -> x.factor(20, 0, 0, what), -2, 0, 9, 1, 0);
         Edges.range("by little", () -> crossed(999), (x, what) -> x.factor(0, 1, 0, what), -2, 0, 19980, 1, 1);
+    }
+
+    static void p17_eachAngleAlongItself() {
+        // STRAINS 6425, -19875, 32250 by 1048: along rise 1175 by 131, along flat 6425 by 1048
+        Edges.range("flat", () -> Edges.tilted(40, 25), (x, what) -> x.factor(100, -200, 300, what), -2, 0, 1048, 257, 1);
+        Edges.range("rise", () -> Edges.tilted(40, 28), (x, what) -> x.factor(100, -200, 300, what), -2, 0, 1048, 235, 0);
+        // whirled, the same STRAINS lie along the others
+        PlyStacker fall = Edges.told(8, "kind a one 5 two 3 three 1 four 2 limit 40;kind b one 7 two 2 three 0 four 1 limit 28;",
+            "a fall", "b flat", "b flat", "a fall");
+        long[] due = {1048, 235, 0};
+        for (int what = 0; what < 3; what++) Edges.due("fall", fall.factor(100, -200, -300, what), due[what]);
+        PlyStacker cross = Edges.told(8, "kind a one 5 two 3 three 1 four 2 limit 40;kind b one 7 two 2 three 0 four 1 limit 25;",
+            "a rise", "b cross", "b cross", "a rise");
+        long[] other = {1048, 257, 1};
+        for (int what = 0; what < 3; what++) Edges.due("cross", cross.factor(-200, 100, 300, what), other[what]);
     }
 
     // ---- 18 ----
@@ -532,6 +598,20 @@ public final class BoundaryStiffTest {
         Edges.range("DET above 0", () -> lean(0), (x, what) -> x.modulus(0, what), -2, 0, 2, 1);
         Edges.range("DET of 0", () -> lean(1), (x, what) -> x.modulus(0, what), -2, 0, 0, 1);
         Edges.range("DET below 0", () -> lean(2), (x, what) -> x.modulus(0, what), -2, 0, -2, 1);
+    }
+
+    static void p18_unlikeAlongBothAndNotStraight() {
+        Edges.range("along 0", () -> Edges.tilted(1, 1), (x, what) -> x.modulus(0, what), -2, 0, 8384, 189);
+        Edges.range("along 1", () -> Edges.tilted(1, 1), (x, what) -> x.modulus(1, what), -2, 0, 8384, 277);
+    }
+
+    static void p18_aMinorNextTo0() {
+        // twice A: 0 2 1, 2 0 1, 1 1 3: DET -8, both minors -1
+        for (int k = 0; k < 2; k++) {
+            int axis = k;
+            Edges.range("one below 0", () -> Edges.told(1, "kind a one 1 two 1 three 1 four 0 limit 1;", "a rise"),
+                (x, what) -> x.modulus(axis, what), -2, 0, 8, 1);
+        }
     }
 
     static void p18_inLowestTermsAlready() {

@@ -508,6 +508,20 @@ public final class BoundaryTextTest {
         bad(1, ROOM.length() + kinds(3).length(), ROOM + kinds(3) + "!kind");
     }
 
+    static void p05_ofOnePlaceTheLeast() {
+        // where ; is due a word can't stand, be it the word of a fourth kind or of a ninth ply
+        String open = kinds(3).substring(0, kinds(3).length() - 1);
+        bad(1, ROOM.length() + open.length() + 1, ROOM + open + " kind d" + TINY);
+        String eight = EIGHT.substring(0, EIGHT.length() - 1);
+        bad(1, eight.length() + 1, eight + " ply aa flat;");
+        bad(3, EIGHT.length() + 1, EIGHT + " ply aa flat;");
+        // where a word or a number of the LINE is due, no word is a NAME
+        faulty(1, ROOM + "kind a ^toolong 1" + REST);
+        faulty(1, ROOM + "kind a one ^toolong" + REST);
+        faulty(1, ROOM + Edges.AA + "ply aa ^toolong;");
+        faulty(1, ROOM + "kind ^100" + TINY);
+    }
+
     static void p05_theEndsPlace() {
         String text = "plate room 8;kind k one 1 two 2 three 3 four 4 limit 5;ply k rise;";
         int lines = 0;

@@ -51,6 +51,44 @@ public final class BoundaryThinTest {
             (x, n) -> x.thinner(n, 0), -2, 1, 3, 2, 1);
     }
 
+    static void p27_asFarAsTheSetAloneHasThem() {
+        // LOST, the others would stay where they are, and one PLY that is not in the middle would bow the plate
+        Edges.range("FLAT", () -> flats(4, 4), (x, n) -> x.thinner(n, 2), -2, 1, 4, 6, 4, 1);
+        Edges.range("FLAT", Edges::mirrored, (x, n) -> x.thinner(n, 2), -2, 1, 4, 2, 2, 1);
+        Edges.range("FLAT", BoundaryThinTest::woven, (x, n) -> x.thinner(n, 2), -2, 1, 8, 12, 28, 16, 14, 0, 2, 1);
+        Edges.range("STRAIGHT", BoundaryThinTest::woven, (x, n) -> x.thinner(n, 4), -2, 1, 0, 16, 0, 22, 0, 10, 0, 1);
+    }
+
+    static void p27_mirroredByTypesAndByEachPair() {
+        Edges.range("two KINDS", () -> Edges.told(8, Edges.AA + Edges.BB, "aa flat", "bb flat"), (x, n) -> x.thinner(n, 1), -2,
+            1, 2, 0);
+        Edges.range("the outer pair alone", () -> Edges.told(8, Edges.AA, "aa flat", "aa rise", "aa cross", "aa flat"),
+            (x, n) -> x.thinner(n, 1), -2, 1, 4, 1, 2, 0);
+        Edges.range("the inner pair alone", () -> Edges.told(8, Edges.AA, "aa flat", "aa rise", "aa rise", "aa cross"),
+            (x, n) -> x.thinner(n, 1), -2, 1, 4, 1, 0, 0);
+    }
+
+    static void p27_flatAtAllPlaces() {
+        for (int k = 0; k < 6; k++) {
+            int where = k;
+            Edges.range("bowed at one place", () -> Edges.bowed(where), (x, n) -> x.thinner(n, 2), -2, 1, 2, 0);
+        }
+        Edges.range("not bowed", () -> Edges.told(8, Edges.LIKE, "a rise", "b rise"), (x, n) -> x.thinner(n, 2), -2, 1, 2, 1);
+    }
+
+    static void p27_straightInPlaneAndInBending() {
+        Edges.stays("A alone", () -> Edges.skew(3, 3), x -> x.thinner(4, 4), 0);
+        Edges.stays("D alone", () -> Edges.skew(3, 21), x -> x.thinner(4, 4), 0);
+        Edges.stays("both", () -> Edges.skew(0, 0), x -> x.thinner(4, 4), 1);
+    }
+
+    static void p27_runsByAnglesNotByTypes() {
+        Edges.range("ROOM 1", () -> Edges.told(1, Edges.AA + Edges.BB, "aa flat", "bb flat"), (x, n) -> x.thinner(n, 0), -2, 1,
+            2, 0);
+        Edges.range("ROOM 2", () -> Edges.told(2, Edges.AA + Edges.BB, "aa flat", "bb flat"), (x, n) -> x.thinner(n, 0), -2, 1,
+            2, 1);
+    }
+
     static void p27_masksAndNoPlate() {
         Edges.range("mask", Edges::mirrored, (x, mask) -> x.thinner(2, mask), -2, 0, 6, 2, 2, 2, 6, 2, 2, 2);
         masks("thinner", (x, mask) -> x.thinner(1, mask));
@@ -86,6 +124,19 @@ public final class BoundaryThinTest {
         Edges.stays("one behind", Edges::full, x -> x.thin(4, 0, 70), -1);
         Edges.refusedOutside("n of none", Edges::empty, (x, n) -> x.thin(n, 0, 0), -2, 1, 0);
         Edges.refusedOutside("n", Edges::busy, (x, n) -> x.thin(n, 0, 0), -2, 1, 4);
+    }
+
+    static void p28_asFarAsTheSetAloneHasThem() {
+        for (int k = 0; k < 4; k++) {
+            int which = k;
+            Edges.stays("FLAT", () -> flats(4, 4), x -> x.thin(1, 2, which), 1 << k);
+        }
+        int[] pairs = {3, 5, 6, 9, 10, 12};
+        for (int k = 0; k < 6; k++) {
+            int which = k;
+            Edges.stays("FLAT", () -> flats(4, 4), x -> x.thin(2, 2, which), pairs[k]);
+        }
+        Edges.stays("not so many", () -> flats(4, 4), x -> x.thin(2, 2, 6), -1);
     }
 
     static void p28_masksAndNoPlate() {
@@ -125,6 +176,18 @@ public final class BoundaryThinTest {
         Edges.range("any", rising, (x, d) -> x.blend(0, d), -2, 1, 1, 1, 1);
     }
 
+    static void p29_bitsTogether() {
+        // FLAT, not MIRRORED, not STRAIGHT; then STRAIGHT, neither MIRRORED nor FLAT
+        Edges.range("FLAT", () -> Edges.told(8, Edges.LIKE, "a rise", "b rise"), (x, mask) -> x.blend(mask, 1), -2, 0,
+            1, -1, 1, -1, -1, -1, -1, -1);
+        Edges.range("STRAIGHT", () -> Edges.told(8, Edges.AA, "aa flat", "aa cross"), (x, mask) -> x.blend(mask, 1), -2, 0,
+            1, -1, -1, -1, 1, -1, -1, -1);
+        for (int k = 0; k < 6; k++) {
+            int where = k;
+            Edges.stays("bowed at one place", () -> Edges.bowed(where), x -> x.blend(2, 1), -1);
+        }
+    }
+
     static void p29_masksAndNoPlate() {
         Edges.range("mask", Edges::mirrored, (x, mask) -> x.blend(mask, 1), -2, 0, 1, 1, 1, 1, 1, 1, 1, 1);
         Edges.refusedOutside("mask", Edges::busy, (x, mask) -> x.blend(mask, 1), -2, 0, 7);
@@ -152,6 +215,16 @@ public final class BoundaryThinTest {
             PlyStacker x = flats(n, 8);
             for (int d = 1; d <= 3; d++) Edges.due("of " + n, x.blends(7, d), 1 + (n - 1 + d - 1) / d);
         }
+    }
+
+    static void p30_theShortestWayToAsFew() {
+        // to PLY 0 and to PLY 4 alone it is longer than to PLY 2
+        Edges.Maker maker = () -> Edges.told(1, Edges.AA, "aa flat", "aa rise", "aa cross", "aa fall", "aa cross");
+        Edges.stays("the fewest", maker, x -> x.blend(4, 2), 1);
+        Edges.stays("the shortest way", maker, x -> x.blends(4, 2), 3);
+        Edges.stays("to another one, too", maker, x -> x.comes(4, 2, 1), 1);
+        Edges.stays("in one step", () -> Edges.told(8, Edges.AA, "aa rise", "aa fall", "aa flat", "aa rise", "aa fall"),
+            x -> x.blends(4, 3), 3);
     }
 
     static void p30_masksAndNoPlate() {

@@ -100,6 +100,15 @@ final class Edges {
         return told(3, "kind d one 20 two 10 three 3 four 5 limit " + limit + ";", "d rise", "d fall", "d fall", "d rise");
     }
 
+    /**
+     * FLAT, not STRAIGHT, no two entries alike but those that must be: twice A is 52 16 6, 16 36 6, 6 6 22,
+     * twice D 592 352 168, 352 528 168, 168 168 328. PLIES 0 and 3 rise, PLIES 1 and 2 lie flat.
+     */
+    static PlyStacker tilted(int limit, int inner) {
+        return told(8, "kind a one 5 two 3 three 1 four 2 limit " + limit + ";kind b one 7 two 2 three 0 four 1 limit "
+            + inner + ";", "a rise", "b flat", "b flat", "a rise");
+    }
+
     /** A PLY that rises, FLAT but not STRAIGHT: DET of A is 0 if two is 5, by the entries at 0 2 and 1 2 alone. */
     static PlyStacker leaning(int two) {
         return told(1, "kind a one 5 two " + two + " three 0 four 0 limit 9;", "a rise");
@@ -164,6 +173,7 @@ final class Edges {
     }
 
     private static final int LOOKS = 8;
+    private static final int COMPARED = 5;
     private static final int TAPE = 6;
     private static final int FAULTS = 7;
 
@@ -176,6 +186,13 @@ final class Edges {
     /** A call leaves everything as it was but the TAPE and the latest FAULT. */
     static void leavesPlates(String what, Maker maker, Call call) {
         for (int look = 0; look < TAPE; look++) sameLook(what, maker, call, look);
+    }
+
+    /** A call may change the PLATE and its acts, but neither an IMAGE nor the TAPE nor the latest FAULT. */
+    static void leavesElse(String what, Maker maker, Call call) {
+        for (int look = 2; look < LOOKS; look++) {
+            if (look != COMPARED) sameLook(what, maker, call, look);
+        }
     }
 
     private static void sameLook(String what, Maker maker, Call call, int look) {
@@ -195,10 +212,10 @@ final class Edges {
         switch (which) {
             case 0: return now(x);
             case 1: return acts(x);
-            case 5: return compared(x);
+            case COMPARED: return compared(x);
             case TAPE: return x.count(5) + " " + x.plate() + " " + x.fault(0) + " " + x.fault(1) + " " + now(x);
             case FAULTS: return x.fault(0) + " " + x.fault(1) + " " + x.fault(2);
-            default: return x.back(which - 2) + " " + numbers(x) + acts(x);
+            default: return x.back(which - 2) == 0 ? numbers(x) + acts(x) : "nothing";
         }
     }
 
@@ -210,8 +227,9 @@ final class Edges {
 
     private static String rows(PlyStacker x) {
         StringBuilder out = new StringBuilder();
-        out.append(x.count(0)).append(' ').append(x.count(2)).append(':');
-        for (int k = 0; k < x.count(2); k++) out.append(' ').append(x.ply(k, 2));
+        int plies = x.count(2);
+        out.append(x.count(0)).append(' ').append(plies).append(':');
+        for (int k = 0; k < plies; k++) out.append(' ').append(x.ply(k, 2));
         return out.append(" / ").toString();
     }
 
@@ -228,8 +246,13 @@ final class Edges {
 
     private static String acts(PlyStacker x) {
         StringBuilder out = new StringBuilder(x.count(3) + ". " + rows(x));
-        for (int k = x.undo(); k >= 0; k = x.undo()) out.append(k).append(". ").append(rows(x));
-        return out.toString();
+        // there are 30 at most: where undo() never refuses, the look ends all the same
+        int left = x.undo();
+        for (int n = 0; n < 31 && left >= 0; n++) {
+            out.append(left).append(". ").append(rows(x));
+            left = x.undo();
+        }
+        return out.append(left).toString();
     }
 
     private static String compared(PlyStacker x) {
