@@ -5,11 +5,6 @@ import java.util.Map;
 public final class BoundaryActsTest {
     private static final String[] ANGLES = {"flat", "rise", "fall", "cross"};
 
-    private static void noPlate(Edges.Call call) {
-        Edges.stays("no PLATE", Edges::none, call, -2);
-        Edges.stays("no PLATE", Edges::bare, call, -2);
-    }
-
     /** TYPES 0 1 7 2 with so many acts; ROOM is 3, 6 or 7. */
     private static PlyStacker acted(int acts) {
         return Edges.acted(Edges.uneven(), acts);
@@ -64,7 +59,7 @@ public final class BoundaryActsTest {
             Edges.due("many", x.many(0, 2), n);
             x.put(n, 0, 2);
         }
-        noPlate(y -> y.many(0, 0));
+        Edges.noPlate(y -> y.many(0, 0));
     }
 
     // ---- 43 ----
@@ -75,7 +70,7 @@ public final class BoundaryActsTest {
         Edges.refusedOutside("both", Edges::busy, (x, ply) -> x.swap(ply, ply), -2, 0, 3);
         Edges.refusedOutside("no PLIES", Edges::empty, (x, ply) -> x.swap(ply, ply), -2, 0, -1);
         Edges.refusedOutside("of eight", Edges::full, (x, ply) -> x.swap(0, ply), -2, 0, 7);
-        noPlate(x -> x.swap(0, 1));
+        Edges.noPlate(x -> x.swap(0, 1));
     }
 
     static void p43_theFirstAndTheLast() {
@@ -117,7 +112,7 @@ public final class BoundaryActsTest {
         Edges.due("the last", x.turn(7, 3), 2);
         Edges.due("the first", x.turn(0, 3), 0);
         Edges.types(x, 3, 1, 7, 2, 0, 1, 7, 3);
-        noPlate(y -> y.turn(0, 0));
+        Edges.noPlate(y -> y.turn(0, 0));
     }
 
     static void p44_thereIsNoSuchAngle() {
@@ -163,7 +158,7 @@ public final class BoundaryActsTest {
         Edges.due("no PLIES", Edges.empty().put(0, 0, 0), 1);
         Edges.refusedOutside("no PLIES", Edges::empty, (x, at) -> x.put(at, 0, 0), -2, 0, 0);
         Edges.refusedOutside("eight", Edges::full, (x, at) -> x.put(at, 0, 0), -2, 0, 8);
-        noPlate(x -> x.put(0, 0, 0));
+        Edges.noPlate(x -> x.put(0, 0, 0));
     }
 
     static void p45_thereIsNoSuchKind() {
@@ -214,7 +209,7 @@ public final class BoundaryActsTest {
         Edges.refusedOutside("ply", Edges::busy, (x, ply) -> x.drop(ply), -2, 0, 3);
         Edges.refusedOutside("of eight", Edges::full, (x, ply) -> x.drop(ply), -2, 0, 7);
         Edges.due("the last of eight", Edges.full().drop(7), 7);
-        noPlate(x -> x.drop(0));
+        Edges.noPlate(x -> x.drop(0));
     }
 
     static void p46_downToNone() {
@@ -259,7 +254,7 @@ public final class BoundaryActsTest {
         for (int mask = 0; mask < 8; mask++) Edges.due("mask " + mask, Edges.mirrored().become(mask, 1), mask % 4 == 0 ? 2 : 4);
         Edges.refusedOutside("mask", Edges::mirrored, (x, mask) -> x.become(mask, 0), -2, 0, 7);
         Edges.refusedOutside("mask", Edges::busy, (x, mask) -> x.become(mask, 0), -2, 0, 7);
-        noPlate(x -> x.become(0, 0));
+        Edges.noPlate(x -> x.become(0, 0));
     }
 
     static void p47_itIsThat() {
@@ -290,8 +285,8 @@ public final class BoundaryActsTest {
         Edges.refusedOutside("set", Edges::busy, (x, set) -> x.keep(set), -2, 1, 15);
         Edges.refusedOutside("of eight", Edges::full, (x, set) -> x.keep(set), -2, 1, 255);
         Edges.refusedOutside("no PLIES", Edges::empty, (x, set) -> x.keep(set), -2, 1, 0);
-        noPlate(x -> x.keep(1));
-        noPlate(x -> x.keep(0));
+        Edges.noPlate(x -> x.keep(1));
+        Edges.noPlate(x -> x.keep(0));
     }
 
     static void p48_thePliesThatStay() {
@@ -330,7 +325,7 @@ public final class BoundaryActsTest {
         }
         Edges.refusedOutside("room", Edges::busy, (x, room) -> x.room(room), -2, 1, 8);
         Edges.due("no PLIES", Edges.empty().room(8), 0);
-        noPlate(x -> x.room(1));
+        Edges.noPlate(x -> x.room(1));
     }
 
     static void p49_itIsSo() {
@@ -362,7 +357,7 @@ public final class BoundaryActsTest {
         }
         Edges.refusedOutside("n", Edges::busy, (x, n) -> x.whirl(n), -2, 1, 3);
         Edges.refusedOutside("n", Edges::empty, (x, n) -> x.whirl(n), -2, 1, 3);
-        noPlate(x -> x.whirl(1));
+        Edges.noPlate(x -> x.whirl(1));
     }
 
     static void p50_noPliesAndEight() {
@@ -404,7 +399,7 @@ public final class BoundaryActsTest {
         Edges.due("of eight", x.upset(), 8);
         Edges.types(x, 1, 7, 2, 0, 1, 7, 2, 0);
         Edges.due("count(3)", x.count(3), 1);
-        noPlate(y -> y.upset());
+        Edges.noPlate(y -> y.upset());
     }
 
     static void p51_isAnAct() {
@@ -474,8 +469,8 @@ public final class BoundaryActsTest {
     static void p52_noSuchImageNothingAndNoPlate() {
         Edges.range("k", Edges::busy, (x, k) -> x.turned(k), -2, 0, -1, -6, -1);
         Edges.refusedOutside("k", Edges::uneven, (x, k) -> x.turned(k), -2, 0, 2);
-        noPlate(x -> x.turned(0));
-        noPlate(x -> x.turned(1));
+        Edges.noPlate(x -> x.turned(0));
+        Edges.noPlate(x -> x.turned(1));
     }
 
     // ---- 53, 54 ----
@@ -494,7 +489,7 @@ public final class BoundaryActsTest {
         Edges.refusedOutside("k", Edges::busy, (x, k) -> x.image(k), -2, 0, 2);
         for (int k = 0; k < 3; k++) {
             int which = k;
-            noPlate(x -> x.image(which));
+            Edges.noPlate(x -> x.image(which));
         }
     }
 
@@ -774,7 +769,7 @@ public final class BoundaryActsTest {
     }
 
     static void p56_noPlate() {
-        noPlate(x -> x.undo());
+        Edges.noPlate(x -> x.undo());
         PlyStacker x = acted(2);
         x.plate();
         Edges.due("the PLATE is gone", x.undo(), -2);
@@ -841,7 +836,7 @@ public final class BoundaryActsTest {
     }
 
     static void p57_noPlate() {
-        noPlate(x -> x.anew());
+        Edges.noPlate(x -> x.anew());
         PlyStacker x = acted(2);
         x.plate();
         Edges.due("the PLATE is gone", x.anew(), -2);

@@ -9,11 +9,6 @@ public final class BoundaryLostTest {
         return Edges.told(1, "kind s one 1 two 0 three 0 four 0 limit " + limit + ";", "s cross");
     }
 
-    private static void noPlate(Edges.Call call, long refusal) {
-        Edges.stays("no PLATE", Edges::none, call, refusal);
-        Edges.stays("no PLATE", Edges::bare, call, refusal);
-    }
-
     private static final String[] ANGLES = {"flat", "rise", "fall", "cross"};
 
     /** So many PLIES of one ANGLE; twice A of each: 10 0 0, 0 10 0, 0 0 5; the LIMIT is 9. */
@@ -104,7 +99,7 @@ public final class BoundaryLostTest {
         Edges.loads("frail", Edges::mirrored, (x, a, b, c) -> x.frail(a, b, c), -2);
         Edges.loads("frail", Edges::busy, (x, a, b, c) -> x.frail(a, b, c), -2);
         Edges.loads("frail", Edges::empty, (x, a, b, c) -> x.frail(a, b, c), -2);
-        noPlate(x -> x.frail(0, 0, 0), -2);
+        Edges.noPlate(x -> x.frail(0, 0, 0), -2);
     }
 
     static void p33_thoseLostAside() {
@@ -132,7 +127,7 @@ public final class BoundaryLostTest {
     static void p34_loadsFrom999BelowTo999Above() {
         Edges.loads("frailSet", Edges::mirrored, (x, a, b, c) -> x.frailSet(a, b, c), -2);
         Edges.loads("frailSet", Edges::busy, (x, a, b, c) -> x.frailSet(a, b, c), -2);
-        noPlate(x -> x.frailSet(0, 0, 0), -2);
+        Edges.noPlate(x -> x.frailSet(0, 0, 0), -2);
     }
 
     /** Twice A at 0 0 is 2 2 4: without PLY 2 a load is borne as without PLIES 0 and 1. */
@@ -226,8 +221,8 @@ public final class BoundaryLostTest {
     }
 
     static void p35_withoutAPlate() {
-        noPlate(x -> x.carries(0), -2);
-        noPlate(x -> x.carries(1), -2);
+        Edges.noPlate(x -> x.carries(0), -2);
+        Edges.noPlate(x -> x.carries(1), -2);
     }
 
     // ---- 38 ----
@@ -248,7 +243,7 @@ public final class BoundaryLostTest {
     static void p38_withoutAPlate() {
         for (int what = 0; what < 3; what++) {
             int which = what;
-            noPlate(x -> x.lost(0, which), Edges.NO_SUCH);
+            Edges.noPlate(x -> x.lost(0, which), Edges.NO_SUCH);
         }
     }
 
@@ -275,8 +270,8 @@ public final class BoundaryLostTest {
     static void p39_withoutPliesAndWithoutAPlate() {
         Edges.range("no PLIES", Edges::empty, (x, what) -> x.worst(what), -2, 0, -1, -1, -1);
         Edges.range("a PLY", () -> single(1), (x, what) -> x.worst(what), -2, 0, 0, 0, 0);
-        noPlate(x -> x.worst(0), -2);
-        noPlate(x -> x.worst(2), -2);
+        Edges.noPlate(x -> x.worst(0), -2);
+        Edges.noPlate(x -> x.worst(2), -2);
     }
 
     static void p39_theFirstOfSeveral() {
@@ -315,7 +310,7 @@ public final class BoundaryLostTest {
         Edges.loads("spared", Edges::mirrored, (x, a, b, c) -> x.spared(a, b, c), -2);
         Edges.loads("spared", Edges::busy, (x, a, b, c) -> x.spared(a, b, c), -2);
         Edges.loads("spared", Edges::empty, (x, a, b, c) -> x.spared(a, b, c), -2);
-        noPlate(x -> x.spared(0, 0, 0), -2);
+        Edges.noPlate(x -> x.spared(0, 0, 0), -2);
     }
 
     public static void main(String[] args) {

@@ -2,13 +2,6 @@
 public final class BoundaryOrdersTest {
     private static final int[][] ROWS = {{0, 0, 3, 3}, {0, 3, 0, 3}, {0, 3, 3, 0}, {3, 0, 0, 3}, {3, 0, 3, 0}, {3, 3, 0, 0}};
 
-    /** So many PLIES that lie flat. */
-    private static PlyStacker flats(int n, int room) {
-        String[] plies = new String[n];
-        java.util.Arrays.fill(plies, "aa flat");
-        return Edges.told(room, Edges.AA, plies);
-    }
-
     private static PlyStacker eightTypes() {
         return Edges.told(8, Edges.AA + Edges.BB, "aa flat", "aa rise", "aa fall", "aa cross", "bb flat", "bb rise",
             "bb fall", "bb cross");
@@ -17,21 +10,6 @@ public final class BoundaryOrdersTest {
     /** Two PLIES of one ANGLE, which only ROOM 2 lets lie on one another. */
     private static PlyStacker pair(int room) {
         return Edges.told(room, Edges.AA + Edges.BB, "aa flat", "bb flat");
-    }
-
-    private static void noPlate(Edges.Call call) {
-        Edges.stays("no PLATE", Edges::none, call, -2);
-        Edges.stays("no PLATE", Edges::bare, call, -2);
-    }
-
-    /** A call with a mask where its answer is none of those that are refused. */
-    private static void masks(String what, Edges.Asker asker) {
-        for (int mask = 0; mask < 8; mask++) {
-            Edges.due(what + " " + mask + " may be", asker.ask(Edges.mirrored(), mask) == -2 ? 1 : 0, 0);
-        }
-        Edges.refusedOutside(what, Edges::mirrored, asker, -2, 0, 7);
-        Edges.refusedOutside(what, Edges::busy, asker, -2, 0, 7);
-        Edges.refusedOutside(what, Edges::empty, asker, -2, 0, 7);
     }
 
     // ---- 19 ----
@@ -43,14 +21,14 @@ public final class BoundaryOrdersTest {
     }
 
     static void p19_withoutAPlate() {
-        noPlate(x -> x.orders(0));
-        noPlate(x -> x.orders(8));
+        Edges.noPlate(x -> x.orders(0));
+        Edges.noPlate(x -> x.orders(8));
     }
 
     static void p19_withoutPliesAndWithOne() {
         Edges.range("no PLIES", Edges::empty, (x, mask) -> x.orders(mask), -2, 0, 1, 1, 1, 1, 1, 1, 1, 1);
         Edges.range("no KINDS", () -> Edges.told(1, ""), (x, mask) -> x.orders(mask), -2, 0, 1, 1, 1, 1, 1, 1, 1, 1);
-        Edges.range("a PLY", () -> flats(1, 1), (x, mask) -> x.orders(mask), -2, 0, 1, 1, 1, 1, 1, 1, 1, 1);
+        Edges.range("a PLY", () -> Edges.flats(1, 1), (x, mask) -> x.orders(mask), -2, 0, 1, 1, 1, 1, 1, 1, 1, 1);
         Edges.range("one that rises", () -> Edges.told(1, Edges.AA, "aa rise"), (x, mask) -> x.orders(mask), -2, 0,
             1, 1, 1, 1, 0, 0, 0, 0);
     }
@@ -58,7 +36,7 @@ public final class BoundaryOrdersTest {
     static void p19_noRunLongerThanRoom() {
         for (int n = 1; n <= 8; n++) {
             for (int room = 1; room <= 8; room++) {
-                Edges.due(n + " by ROOM " + room, flats(n, room).orders(0), n <= room ? 1 : 0);
+                Edges.due(n + " by ROOM " + room, Edges.flats(n, room).orders(0), n <= room ? 1 : 0);
             }
         }
         Edges.stays("by ANGLE, not by TYPE", () -> pair(1), x -> x.orders(0), 0);
@@ -79,8 +57,8 @@ public final class BoundaryOrdersTest {
         Edges.due("two of one", x.orders(0), 20160);
         x.turn(6, 0);
         Edges.due("three of one", x.orders(0), 6720);
-        Edges.due("one TYPE", flats(8, 8).orders(0), 1);
-        Edges.due("one TYPE", flats(8, 7).orders(0), 0);
+        Edges.due("one TYPE", Edges.flats(8, 8).orders(0), 1);
+        Edges.due("one TYPE", Edges.flats(8, 7).orders(0), 0);
     }
 
     static void p19_flatButNotMirrored() {
@@ -119,7 +97,7 @@ public final class BoundaryOrdersTest {
     }
 
     static void p19_otherPliesOfOneType() {
-        PlyStacker x = flats(3, 2);
+        PlyStacker x = Edges.flats(3, 2);
         Edges.due("three", x.orders(0), 0);
         x.drop(0);
         Edges.due("two", x.orders(0), 1);
@@ -173,12 +151,12 @@ public final class BoundaryOrdersTest {
         Edges.range("i", Edges::mirrored, (x, i) -> x.order(0, 1, i), -2, 0, 0, 3, 0, 3);
         Edges.refusedOutside("i", Edges::mirrored, (x, i) -> x.order(0, 6, i), -2, 0, 3);
         Edges.refusedOutside("i", Edges::empty, (x, i) -> x.order(0, 0, i), -2, 0, -1);
-        Edges.range("i of eight", () -> flats(8, 8), (x, i) -> x.order(7, 0, i), -2, 0, 0, 0, 0, 0, 0, 0, 0, 0);
+        Edges.range("i of eight", () -> Edges.flats(8, 8), (x, i) -> x.order(7, 0, i), -2, 0, 0, 0, 0, 0, 0, 0, 0, 0);
     }
 
     static void p20_masksAndNoPlate() {
-        masks("order", (x, mask) -> x.count(2) == 0 ? x.orders(mask) : x.order(mask, 0, 0));
-        noPlate(x -> x.order(0, 0, 0));
+        Edges.masks("order", (x, mask) -> x.count(2) == 0 ? x.orders(mask) : x.order(mask, 0, 0));
+        Edges.noPlate(x -> x.order(0, 0, 0));
     }
 
     static void p20_theFirstAndTheLastOf40320() {
@@ -212,8 +190,8 @@ public final class BoundaryOrdersTest {
             Edges.stays("rank(0)", maker, x -> x.rank(0), k);
             Edges.stays("rank(1)", maker, x -> x.rank(1), k == 2 ? 0 : k == 3 ? 1 : -1);
         }
-        Edges.stays("a RUN at ROOM", () -> flats(3, 3), x -> x.rank(0), 0);
-        Edges.stays("a RUN too long", () -> flats(3, 2), x -> x.rank(0), -1);
+        Edges.stays("a RUN at ROOM", () -> Edges.flats(3, 3), x -> x.rank(0), 0);
+        Edges.stays("a RUN too long", () -> Edges.flats(3, 2), x -> x.rank(0), -1);
         Edges.stays("the last of all", () -> {
             PlyStacker x = eightTypes();
             x.become(0, 40319);
@@ -225,7 +203,7 @@ public final class BoundaryOrdersTest {
         Edges.range("rank", Edges::mirrored, (x, mask) -> x.rank(mask), -2, 0, 2, 0, 0, 0, 2, 0, 0, 0);
         Edges.range("no PLIES", Edges::empty, (x, mask) -> x.rank(mask), -2, 0, 0, 0, 0, 0, 0, 0, 0, 0);
         Edges.refusedOutside("rank", Edges::busy, (x, mask) -> x.rank(mask), -2, 0, 7);
-        noPlate(x -> x.rank(0));
+        Edges.noPlate(x -> x.rank(0));
     }
 
     // ---- 22, 23 ----
@@ -238,10 +216,10 @@ public final class BoundaryOrdersTest {
     }
 
     static void p22_masksAndNoPlate() {
-        masks("best", (x, mask) -> x.best(mask, 0));
-        masks("best", (x, mask) -> x.best(mask, 3));
-        noPlate(x -> x.best(0, 0));
-        noPlate(x -> x.best(0, 3));
+        Edges.masks("best", (x, mask) -> x.best(mask, 0));
+        Edges.masks("best", (x, mask) -> x.best(mask, 3));
+        Edges.noPlate(x -> x.best(0, 0));
+        Edges.noPlate(x -> x.best(0, 3));
     }
 
     static void p22_theFirstOfSeveral() {
@@ -255,8 +233,8 @@ public final class BoundaryOrdersTest {
     static void p22_noneAndOne() {
         for (int what = 0; what < 4; what++) {
             int which = what;
-            Edges.stays("a RUN too long", () -> flats(3, 2), x -> x.best(0, which), -1);
-            Edges.stays("a RUN at ROOM", () -> flats(3, 3), x -> x.best(0, which), 0);
+            Edges.stays("a RUN too long", () -> Edges.flats(3, 2), x -> x.best(0, which), -1);
+            Edges.stays("a RUN at ROOM", () -> Edges.flats(3, 3), x -> x.best(0, which), 0);
         }
     }
 
@@ -279,10 +257,10 @@ public final class BoundaryOrdersTest {
     }
 
     static void p23_masksAndNoPlate() {
-        masks("bestBy", (x, mask) -> x.bestBy(mask, 0));
-        masks("bestBy", (x, mask) -> x.bestBy(mask, 3));
-        noPlate(x -> x.bestBy(0, 0));
-        noPlate(x -> x.bestBy(0, 3));
+        Edges.masks("bestBy", (x, mask) -> x.bestBy(mask, 0));
+        Edges.masks("bestBy", (x, mask) -> x.bestBy(mask, 3));
+        Edges.noPlate(x -> x.bestBy(0, 0));
+        Edges.noPlate(x -> x.bestBy(0, 3));
     }
 
     static void p23_noneAndOne() {
@@ -290,12 +268,12 @@ public final class BoundaryOrdersTest {
         long[] due = {27 * 66, 27 * 26, 27 * 9, 2};
         for (int what = 0; what < 4; what++) {
             int which = what;
-            Edges.stays("a RUN too long", () -> flats(3, 2), x -> x.bestBy(0, which), -1);
-            Edges.stays("a RUN at ROOM", () -> flats(3, 3), x -> x.bestBy(0, which), due[which]);
+            Edges.stays("a RUN too long", () -> Edges.flats(3, 2), x -> x.bestBy(0, which), -1);
+            Edges.stays("a RUN at ROOM", () -> Edges.flats(3, 3), x -> x.bestBy(0, which), due[which]);
         }
         Edges.stays("below 0", () -> Edges.told(1, "kind a one 1 two 0 three 9 four 0 limit 1;", "a flat"),
             x -> x.bestBy(0, 2), -17);
-        Edges.stays("seven likes()", () -> flats(8, 8), x -> x.bestBy(0, 3), 7);
+        Edges.stays("seven likes()", () -> Edges.flats(8, 8), x -> x.bestBy(0, 3), 7);
     }
 
     // ---- 24, 25 ----
@@ -304,12 +282,12 @@ public final class BoundaryOrdersTest {
         Edges.range("nearest", Edges::mirrored, (x, mask) -> x.nearest(mask), -2, 0, 0, 0, 0, 0, 0, 0, 0, 0);
         Edges.range("no PLIES", Edges::empty, (x, mask) -> x.nearest(mask), -2, 0, 0, 0, 0, 0, 0, 0, 0, 0);
         Edges.refusedOutside("nearest", Edges::busy, (x, mask) -> x.nearest(mask), -2, 0, 7);
-        noPlate(x -> x.nearest(0));
+        Edges.noPlate(x -> x.nearest(0));
     }
 
     static void p24_noneAndItself() {
-        Edges.stays("a RUN too long", () -> flats(3, 2), x -> x.nearest(0), -1);
-        Edges.stays("a RUN at ROOM", () -> flats(3, 3), x -> x.nearest(0), 0);
+        Edges.stays("a RUN too long", () -> Edges.flats(3, 2), x -> x.nearest(0), -1);
+        Edges.stays("a RUN at ROOM", () -> Edges.flats(3, 3), x -> x.nearest(0), 0);
         Edges.stays("none is MIRRORED", Edges::busy, x -> x.nearest(1), -1);
     }
 
@@ -342,12 +320,12 @@ public final class BoundaryOrdersTest {
         Edges.range("nearestAt", Edges::mirrored, (x, mask) -> x.nearestAt(mask), -2, 0, 2, 0, 0, 0, 2, 0, 0, 0);
         Edges.range("no PLIES", Edges::empty, (x, mask) -> x.nearestAt(mask), -2, 0, 0, 0, 0, 0, 0, 0, 0, 0);
         Edges.refusedOutside("nearestAt", Edges::busy, (x, mask) -> x.nearestAt(mask), -2, 0, 7);
-        noPlate(x -> x.nearestAt(0));
+        Edges.noPlate(x -> x.nearestAt(0));
     }
 
     static void p25_noneAndTheFirstOfSeveral() {
-        Edges.stays("a RUN too long", () -> flats(3, 2), x -> x.nearestAt(0), -1);
-        Edges.stays("a RUN at ROOM", () -> flats(3, 3), x -> x.nearestAt(0), 0);
+        Edges.stays("a RUN too long", () -> Edges.flats(3, 2), x -> x.nearestAt(0), -1);
+        Edges.stays("a RUN at ROOM", () -> Edges.flats(3, 3), x -> x.nearestAt(0), 0);
         int[] due = {0, 0, 0, 1, 0, 0};
         for (int k = 0; k < 6; k++) {
             int which = k;
@@ -365,12 +343,12 @@ public final class BoundaryOrdersTest {
         Edges.range("unlike", Edges::mirrored, (x, mask) -> x.unlike(mask), -2, 0, 3, 2, 2, 2, 3, 2, 2, 2);
         Edges.range("no PLIES", Edges::empty, (x, mask) -> x.unlike(mask), -2, 0, 1, 1, 1, 1, 1, 1, 1, 1);
         Edges.refusedOutside("unlike", Edges::busy, (x, mask) -> x.unlike(mask), -2, 0, 7);
-        noPlate(x -> x.unlike(0));
+        Edges.noPlate(x -> x.unlike(0));
     }
 
     static void p26_noneAndOne() {
-        Edges.stays("none", () -> flats(3, 2), x -> x.unlike(0), 0);
-        Edges.stays("one", () -> flats(3, 3), x -> x.unlike(0), 1);
+        Edges.stays("none", () -> Edges.flats(3, 2), x -> x.unlike(0), 0);
+        Edges.stays("one", () -> Edges.flats(3, 3), x -> x.unlike(0), 1);
         Edges.stays("two that bend alike", () -> Edges.told(8, Edges.LIKE, "a flat", "b flat"), x -> x.unlike(0), 1);
         Edges.stays("two ORDERS", () -> Edges.told(8, Edges.LIKE, "a flat", "b flat"), x -> x.orders(0), 2);
     }
@@ -418,8 +396,8 @@ public final class BoundaryOrdersTest {
     }
 
     static void p41_masksAndNoPlate() {
-        masks("exchanges", (x, mask) -> x.exchanges(mask, 0));
-        noPlate(x -> x.exchanges(0, 0));
+        Edges.masks("exchanges", (x, mask) -> x.exchanges(mask, 0));
+        Edges.noPlate(x -> x.exchanges(0, 0));
     }
 
     static void p41_fromNoneTo28() {

@@ -392,22 +392,25 @@ public final class BoundaryStiffTest {
             (x, what) -> x.strain(0, 0, 1, 2, what), Edges.NO_SUCH, 0, 4, 25);
     }
 
-    private static final long[][][] STRAINS = {{{189, 4192}, {-79, 4192}, {-15, 2096}},
-        {{-79, 4192}, {277, 4192}, {-27, 2096}}, {{-15, 2096}, {-27, 2096}, {101, 1048}}};
-    private static final long[][][] BENDS = {{{2265, 391744}, {-1363, 391744}, {-231, 195872}},
-        {{-1363, 391744}, {2593, 391744}, {-315, 195872}}, {{-231, 195872}, {-315, 195872}, {737, 97936}}};
+    private interface Yielding {
+        long tell(PlyStacker x, int[] loads, int i, int what);
+    }
 
-    static void p15_eachStrainByEachLoad() {
-        long[][] together = {{6425, 1048}, {-19875, 1048}, {16125, 524}};
+    /** What tilted() yields by each load alone and by three together: three numbers each, above and below. */
+    private static void yields(Yielding asker, long[][]... due) {
+        int[][] loads = {{1, 0, 0}, {0, 1, 0}, {0, 0, 1}, {100, -200, 300}};
         PlyStacker x = Edges.tilted(40, 25);
-        for (int i = 0; i < 3; i++) {
-            for (int what = 0; what < 2; what++) {
-                Edges.due("by load 0", x.strain(1, 0, 0, i, what), STRAINS[0][i][what]);
-                Edges.due("by load 1", x.strain(0, 1, 0, i, what), STRAINS[1][i][what]);
-                Edges.due("by load 2", x.strain(0, 0, 1, i, what), STRAINS[2][i][what]);
-                Edges.due("by all", x.strain(100, -200, 300, i, what), together[i][what]);
+        for (int k = 0; k < loads.length; k++) {
+            for (int cell = 0; cell < 6; cell++) {
+                Edges.due("by load " + k, asker.tell(x, loads[k], cell / 2, cell % 2), due[k][cell / 2][cell % 2]);
             }
         }
+    }
+
+    static void p15_eachStrainByEachLoad() {
+        yields((x, n, i, what) -> x.strain(n[0], n[1], n[2], i, what),
+            new long[][] {{189, 4192}, {-79, 4192}, {-15, 2096}}, new long[][] {{-79, 4192}, {277, 4192}, {-27, 2096}},
+            new long[][] {{-15, 2096}, {-27, 2096}, {101, 1048}}, new long[][] {{6425, 1048}, {-19875, 1048}, {16125, 524}});
     }
 
     static void p15_noStrainIs0By1AndTheLowerNumberIsAbove0() {
@@ -464,16 +467,11 @@ public final class BoundaryStiffTest {
     }
 
     static void p16_eachBendByEachMoment() {
-        long[][] together = {{90125, 97936}, {-210975, 97936}, {120525, 48968}};
-        PlyStacker x = Edges.tilted(40, 25);
-        for (int i = 0; i < 3; i++) {
-            for (int what = 0; what < 2; what++) {
-                Edges.due("by moment 0", x.bend(1, 0, 0, i, what), BENDS[0][i][what]);
-                Edges.due("by moment 1", x.bend(0, 1, 0, i, what), BENDS[1][i][what]);
-                Edges.due("by moment 2", x.bend(0, 0, 1, i, what), BENDS[2][i][what]);
-                Edges.due("by all", x.bend(100, -200, 300, i, what), together[i][what]);
-            }
-        }
+        yields((x, n, i, what) -> x.bend(n[0], n[1], n[2], i, what),
+            new long[][] {{2265, 391744}, {-1363, 391744}, {-231, 195872}},
+            new long[][] {{-1363, 391744}, {2593, 391744}, {-315, 195872}},
+            new long[][] {{-231, 195872}, {-315, 195872}, {737, 97936}},
+            new long[][] {{90125, 97936}, {-210975, 97936}, {120525, 48968}});
     }
 
     static void p16_noBendIs0By1AndTheLowerNumberIsAbove0() {

@@ -5,26 +5,6 @@ public final class BoundaryThinTest {
         return Edges.told(8, Edges.AA, "aa rise", "aa fall", "aa fall", "aa rise", "aa fall", "aa rise", "aa rise", "aa fall");
     }
 
-    /** So many PLIES that lie flat. */
-    private static PlyStacker flats(int n, int room) {
-        String[] plies = new String[n];
-        java.util.Arrays.fill(plies, "aa flat");
-        return Edges.told(room, Edges.AA, plies);
-    }
-
-    private static void noPlate(Edges.Call call) {
-        Edges.stays("no PLATE", Edges::none, call, -2);
-        Edges.stays("no PLATE", Edges::bare, call, -2);
-    }
-
-    private static void masks(String what, Edges.Asker asker) {
-        for (int mask = 0; mask < 8; mask++) {
-            Edges.due(what + " " + mask + " may be", asker.ask(Edges.mirrored(), mask) == -2 ? 1 : 0, 0);
-        }
-        Edges.refusedOutside(what, Edges::mirrored, asker, -2, 0, 7);
-        Edges.refusedOutside(what, Edges::busy, asker, -2, 0, 7);
-    }
-
     private static void strides(String what, Edges.Asker asker, long... wants) {
         Edges.range(what, Edges::mirrored, asker, -2, 1, wants);
         Edges.refusedOutside(what, Edges::busy, asker, -2, 1, 3);
@@ -37,23 +17,23 @@ public final class BoundaryThinTest {
         Edges.range("n", Edges::mirrored, (x, n) -> x.thinner(n, 1), -2, 1, 4, 2, 2, 1);
         Edges.range("n", Edges::mirrored, (x, n) -> x.thinner(n, 0), -2, 1, 4, 6, 4, 1);
         Edges.range("n of eight", Edges::full, (x, n) -> x.thinner(n, 0), -2, 1, 8, 28, 56, 70, 56, 28, 8, 1);
-        Edges.range("n of one", () -> flats(1, 1), (x, n) -> x.thinner(n, 7), -2, 1, 1);
+        Edges.range("n of one", () -> Edges.flats(1, 1), (x, n) -> x.thinner(n, 7), -2, 1, 1);
         Edges.refusedOutside("n of none", Edges::empty, (x, n) -> x.thinner(n, 0), -2, 1, 0);
         Edges.refusedOutside("n", Edges::busy, (x, n) -> x.thinner(n, 0), -2, 1, 4);
     }
 
     static void p27_noRunLongerThanRoom() {
-        Edges.range("ROOM 1", () -> flats(4, 1), (x, n) -> x.thinner(n, 0), -2, 1, 4, 0, 0, 0);
-        Edges.range("ROOM 2", () -> flats(4, 2), (x, n) -> x.thinner(n, 0), -2, 1, 4, 6, 0, 0);
-        Edges.range("ROOM 3", () -> flats(4, 3), (x, n) -> x.thinner(n, 0), -2, 1, 4, 6, 4, 0);
-        Edges.range("ROOM 4", () -> flats(4, 4), (x, n) -> x.thinner(n, 0), -2, 1, 4, 6, 4, 1);
+        Edges.range("ROOM 1", () -> Edges.flats(4, 1), (x, n) -> x.thinner(n, 0), -2, 1, 4, 0, 0, 0);
+        Edges.range("ROOM 2", () -> Edges.flats(4, 2), (x, n) -> x.thinner(n, 0), -2, 1, 4, 6, 0, 0);
+        Edges.range("ROOM 3", () -> Edges.flats(4, 3), (x, n) -> x.thinner(n, 0), -2, 1, 4, 6, 4, 0);
+        Edges.range("ROOM 4", () -> Edges.flats(4, 4), (x, n) -> x.thinner(n, 0), -2, 1, 4, 6, 4, 1);
         Edges.range("RUNS that grow", () -> Edges.told(1, Edges.AA, "aa flat", "aa rise", "aa flat"),
             (x, n) -> x.thinner(n, 0), -2, 1, 3, 2, 1);
     }
 
     static void p27_asFarAsTheSetAloneHasThem() {
         // LOST, the others would stay where they are, and one PLY that is not in the middle would bow the plate
-        Edges.range("FLAT", () -> flats(4, 4), (x, n) -> x.thinner(n, 2), -2, 1, 4, 6, 4, 1);
+        Edges.range("FLAT", () -> Edges.flats(4, 4), (x, n) -> x.thinner(n, 2), -2, 1, 4, 6, 4, 1);
         Edges.range("FLAT", Edges::mirrored, (x, n) -> x.thinner(n, 2), -2, 1, 4, 2, 2, 1);
         Edges.range("FLAT", BoundaryThinTest::woven, (x, n) -> x.thinner(n, 2), -2, 1, 8, 12, 28, 16, 14, 0, 2, 1);
         Edges.range("STRAIGHT", BoundaryThinTest::woven, (x, n) -> x.thinner(n, 4), -2, 1, 0, 16, 0, 22, 0, 10, 0, 1);
@@ -91,9 +71,9 @@ public final class BoundaryThinTest {
 
     static void p27_masksAndNoPlate() {
         Edges.range("mask", Edges::mirrored, (x, mask) -> x.thinner(2, mask), -2, 0, 6, 2, 2, 2, 6, 2, 2, 2);
-        masks("thinner", (x, mask) -> x.thinner(1, mask));
-        noPlate(x -> x.thinner(1, 0));
-        noPlate(x -> x.thinner(0, 0));
+        Edges.masks("thinner", (x, mask) -> x.thinner(1, mask));
+        Edges.noPlate(x -> x.thinner(1, 0));
+        Edges.noPlate(x -> x.thinner(0, 0));
     }
 
     // ---- 28 ----
@@ -114,7 +94,7 @@ public final class BoundaryThinTest {
                 Edges.stays("below 0", Edges::busy, x -> x.thin(many, 1, k), -2);
             }
         }
-        Edges.stays("none at all", () -> flats(4, 2), x -> x.thin(3, 0, 0), -1);
+        Edges.stays("none at all", () -> Edges.flats(4, 2), x -> x.thin(3, 0, 0), -1);
     }
 
     static void p28_setsOfOneToAllPlies() {
@@ -129,19 +109,19 @@ public final class BoundaryThinTest {
     static void p28_asFarAsTheSetAloneHasThem() {
         for (int k = 0; k < 4; k++) {
             int which = k;
-            Edges.stays("FLAT", () -> flats(4, 4), x -> x.thin(1, 2, which), 1 << k);
+            Edges.stays("FLAT", () -> Edges.flats(4, 4), x -> x.thin(1, 2, which), 1 << k);
         }
         int[] pairs = {3, 5, 6, 9, 10, 12};
         for (int k = 0; k < 6; k++) {
             int which = k;
-            Edges.stays("FLAT", () -> flats(4, 4), x -> x.thin(2, 2, which), pairs[k]);
+            Edges.stays("FLAT", () -> Edges.flats(4, 4), x -> x.thin(2, 2, which), pairs[k]);
         }
-        Edges.stays("not so many", () -> flats(4, 4), x -> x.thin(2, 2, 6), -1);
+        Edges.stays("not so many", () -> Edges.flats(4, 4), x -> x.thin(2, 2, 6), -1);
     }
 
     static void p28_masksAndNoPlate() {
-        masks("thin", (x, mask) -> x.thin(1, mask, 0));
-        noPlate(x -> x.thin(1, 0, 0));
+        Edges.masks("thin", (x, mask) -> x.thin(1, mask, 0));
+        Edges.noPlate(x -> x.thin(1, 0, 0));
     }
 
     // ---- 29 ----
@@ -156,14 +136,14 @@ public final class BoundaryThinTest {
         for (int d = 1; d <= 3; d++) {
             int most = d;
             Edges.stays("not MIRRORED", Edges::busy, x -> x.blend(1, most), -1);
-            Edges.stays("a RUN too long", () -> flats(3, 2), x -> x.blend(0, most), -1);
-            Edges.stays("a RUN at ROOM", () -> flats(3, 3), x -> x.blend(0, most), 1);
+            Edges.stays("a RUN too long", () -> Edges.flats(3, 2), x -> x.blend(0, most), -1);
+            Edges.stays("a RUN at ROOM", () -> Edges.flats(3, 3), x -> x.blend(0, most), 1);
         }
     }
 
     static void p29_onePlyAtLeastStays() {
         for (int n = 1; n <= 8; n++) {
-            PlyStacker x = flats(n, 8);
+            PlyStacker x = Edges.flats(n, 8);
             for (int d = 1; d <= 3; d++) Edges.due("of " + n, x.blend(7, d), 1);
         }
         Edges.stays("0 if there are none", Edges::empty, x -> x.blend(7, 1), 0);
@@ -191,7 +171,7 @@ public final class BoundaryThinTest {
     static void p29_masksAndNoPlate() {
         Edges.range("mask", Edges::mirrored, (x, mask) -> x.blend(mask, 1), -2, 0, 1, 1, 1, 1, 1, 1, 1, 1);
         Edges.refusedOutside("mask", Edges::busy, (x, mask) -> x.blend(mask, 1), -2, 0, 7);
-        noPlate(x -> x.blend(0, 1));
+        Edges.noPlate(x -> x.blend(0, 1));
     }
 
     // ---- 30 ----
@@ -206,13 +186,13 @@ public final class BoundaryThinTest {
         for (int d = 1; d <= 3; d++) {
             int most = d;
             Edges.stays("not MIRRORED", Edges::busy, x -> x.blends(1, most), -1);
-            Edges.stays("a RUN too long", () -> flats(3, 2), x -> x.blends(0, most), -1);
+            Edges.stays("a RUN too long", () -> Edges.flats(3, 2), x -> x.blends(0, most), -1);
         }
     }
 
     static void p30_fromOneToEightPlates() {
         for (int n = 1; n <= 8; n++) {
-            PlyStacker x = flats(n, 8);
+            PlyStacker x = Edges.flats(n, 8);
             for (int d = 1; d <= 3; d++) Edges.due("of " + n, x.blends(7, d), 1 + (n - 1 + d - 1) / d);
         }
     }
@@ -230,7 +210,7 @@ public final class BoundaryThinTest {
     static void p30_masksAndNoPlate() {
         Edges.range("mask", Edges::mirrored, (x, mask) -> x.blends(mask, 1), -2, 0, 4, 4, 4, 4, 4, 4, 4, 4);
         Edges.refusedOutside("mask", Edges::busy, (x, mask) -> x.blends(mask, 1), -2, 0, 7);
-        noPlate(x -> x.blends(0, 1));
+        Edges.noPlate(x -> x.blends(0, 1));
     }
 
     // ---- 31 ----
@@ -242,14 +222,14 @@ public final class BoundaryThinTest {
             1, 1, 0, 1, 0, 1, 0, 1, 1, 0, 1, 0, 1, 0, 1);
         Edges.range("not so itself", Edges::busy, (x, set) -> x.comes(1, 3, set), -2, 1,
             0, 0, 0, 0, 0, 0, 0, 0, 0, 0, 0, 0, 0, 0, 0);
-        Edges.range("a PLY", () -> flats(1, 1), (x, set) -> x.comes(7, 1, set), -2, 1, 1);
+        Edges.range("a PLY", () -> Edges.flats(1, 1), (x, set) -> x.comes(7, 1, set), -2, 1, 1);
         Edges.refusedOutside("no PLIES", Edges::empty, (x, set) -> x.comes(0, 1, set), -2, 1, 0);
         Edges.due("all of eight", Edges.full().comes(0, 1, 255), 1);
         Edges.refusedOutside("of eight", Edges::full, (x, set) -> x.comes(0, 1, set), -2, 1, 255);
     }
 
     static void p31_toEachSet() {
-        Edges.range("set", () -> flats(4, 8), (x, set) -> x.comes(7, 1, set), -2, 1,
+        Edges.range("set", () -> Edges.flats(4, 8), (x, set) -> x.comes(7, 1, set), -2, 1,
             1, 1, 1, 1, 1, 1, 1, 1, 1, 1, 1, 1, 1, 1, 1);
     }
 
@@ -261,8 +241,8 @@ public final class BoundaryThinTest {
     static void p31_masksAndNoPlate() {
         Edges.range("mask", Edges::mirrored, (x, mask) -> x.comes(mask, 1, 7), -2, 0, 1, 0, 0, 0, 1, 0, 0, 0);
         Edges.refusedOutside("mask", Edges::busy, (x, mask) -> x.comes(mask, 1, 1), -2, 0, 7);
-        noPlate(x -> x.comes(0, 1, 1));
-        noPlate(x -> x.comes(0, 1, 0));
+        Edges.noPlate(x -> x.comes(0, 1, 1));
+        Edges.noPlate(x -> x.comes(0, 1, 0));
     }
 
     // ---- 32 ----
@@ -283,16 +263,16 @@ public final class BoundaryThinTest {
         way(Edges::mirrored, 1, 2, 15, 9, 1);
         way(Edges::mirrored, 1, 3, 15, 1);
         way(BoundaryThinTest::woven, 4, 1, 255);
-        way(() -> flats(1, 1), 7, 3, 1);
-        way(() -> flats(8, 8), 7, 1, 255, 127, 63, 31, 15, 7, 3, 1);
-        way(() -> flats(8, 8), 7, 3, 255, 31, 3, 1);
+        way(() -> Edges.flats(1, 1), 7, 3, 1);
+        way(() -> Edges.flats(8, 8), 7, 1, 255, 127, 63, 31, 15, 7, 3, 1);
+        way(() -> Edges.flats(8, 8), 7, 3, 255, 31, 3, 1);
     }
 
     static void p32_withoutPliesAndNotSoItself() {
         way(Edges::empty, 0, 1, 0);
         way(Edges::empty, 7, 3, 0);
         way(Edges::busy, 1, 1);
-        way(() -> flats(3, 2), 0, 3);
+        way(() -> Edges.flats(3, 2), 0, 3);
     }
 
     static void p32_oneToThreeDropped() {
@@ -317,7 +297,7 @@ public final class BoundaryThinTest {
     static void p32_masksAndNoPlate() {
         Edges.range("mask", Edges::mirrored, (x, mask) -> x.step(mask, 1, 1), -2, 0, 7, 11, 11, 11, 7, 11, 11, 11);
         Edges.refusedOutside("mask", Edges::busy, (x, mask) -> x.step(mask, 1, 0), -2, 0, 7);
-        noPlate(x -> x.step(0, 1, 0));
+        Edges.noPlate(x -> x.step(0, 1, 0));
     }
 
     public static void main(String[] args) {

@@ -114,6 +114,13 @@ final class Edges {
         return told(1, "kind a one 5 two " + two + " three 0 four 0 limit 9;", "a rise");
     }
 
+    /** So many PLIES that lie flat. */
+    static PlyStacker flats(int n, int room) {
+        String[] plies = new String[n];
+        Arrays.fill(plies, "aa flat");
+        return told(room, AA, plies);
+    }
+
     static PlyStacker none() {
         return new PlyStacker();
     }
@@ -282,6 +289,26 @@ final class Edges {
 
     static void refusedOutside(String what, Maker maker, Asker asker, long refusal, int least, int most) {
         for (int bad : outside(least, most)) stays(what + " " + bad, maker, x -> asker.ask(x, bad), refusal);
+    }
+
+    /** A call that wants a PLATE is refused where there is none, be it that there never was one. */
+    static void noPlate(Call call, long refusal) {
+        stays("no PLATE", Edges::none, call, refusal);
+        stays("no PLATE", Edges::bare, call, refusal);
+    }
+
+    static void noPlate(Call call) {
+        noPlate(call, -2);
+    }
+
+    /** A call with a mask 0 .. 7, whatever else it answers. */
+    static void masks(String what, Asker asker) {
+        for (int mask = 0; mask < 8; mask++) {
+            due(what + " " + mask + " may be", asker.ask(mirrored(), mask) == -2 ? 1 : 0, 0);
+        }
+        refusedOutside(what, Edges::mirrored, asker, -2, 0, 7);
+        refusedOutside(what, Edges::busy, asker, -2, 0, 7);
+        refusedOutside(what, Edges::empty, asker, -2, 0, 7);
     }
 
     /** Loads and moments: each -999 .. 999. What is within is told by the test itself. */
