@@ -683,8 +683,8 @@ public final class PlyStacker {
         return d >= 1 && d <= 3;
     }
 
-    private static boolean isImage(int k) {
-        return k >= 0 && k < IMAGES;
+    private boolean isImage(int k) {
+        return k >= 0 && k < images.length && images[k] != null;
     }
 
     /** Rows of TYPES in one number, four bits a PLY, PLY 0 in the lowest; bits above the row are 0. */
@@ -896,7 +896,7 @@ public final class PlyStacker {
         }
 
         private void act(int row, int size, int room) {
-            if (isFull()) {
+            if (acts < 0 || isFull()) {
                 return;
             }
             acts++;
@@ -906,15 +906,15 @@ public final class PlyStacker {
         }
 
         private int row() {
-            return rows[acts];
+            return acts < 0 || acts >= rows.length ? 0 : rows[acts];
         }
 
         private int plies() {
-            return sizes[acts];
+            return acts < 0 || acts >= sizes.length ? 0 : sizes[acts];
         }
 
         private int roomNow() {
-            return rooms[acts];
+            return acts < 0 || acts >= rooms.length ? 0 : rooms[acts];
         }
 
         private int allPlies() {
@@ -963,11 +963,13 @@ public final class PlyStacker {
         }
 
         private int cellAt(int type, int cell) {
-            return cells[(type & 15) * 9 + cell];
+            return cell < 0 || cell > 8 ? 0 : cells[(type & 15) * 9 + cell];
         }
 
         private void setCell(int type, int cell, int value) {
-            cells[(type & 15) * 9 + cell] = value;
+            if (cell >= 0 && cell <= 8) {
+                cells[(type & 15) * 9 + cell] = value;
+            }
         }
 
         /** Twice an entry of A, B or D, PLIES of a set LOST. */
@@ -977,6 +979,9 @@ public final class PlyStacker {
 
         /** The same for another row; ORDERS ask it of each of theirs, so FAR goes along. */
         private long totalOf(int row, int n, int gone, int which, int cell) {
+            if (cell < 0 || cell > 8) {
+                return 0;
+            }
             int sum = 0;
             int rest = row;
             int far = 1 - n;
@@ -1078,7 +1083,7 @@ public final class PlyStacker {
 
         private void add(int number) {
             for (int shift = 24; shift >= 0; shift -= 8) {
-                if (size < MOST_BYTES) {
+                if (size >= 0 && size < MOST_BYTES) {
                     bytes[size] = (byte) (number >>> shift);
                     size++;
                 }
@@ -1206,7 +1211,7 @@ public final class PlyStacker {
 
         private boolean readKind() {
             int kind = draft.kinds;
-            if (kind >= MOST_KINDS) {
+            if (kind < 0 || kind >= MOST_KINDS) {
                 return refuse(TOO_MANY);
             }
             next();
@@ -1510,7 +1515,7 @@ public final class PlyStacker {
             int same = 0;
             for (int k = 0; k < plies; k++) {
                 same = k > 0 && Rows.typeAt(pool, k) == Rows.typeAt(pool, k - 1) ? same + 1 : 1;
-                most = most * (k + 1) / same;
+                most = most * (k + 1) / Math.max(1, same);
             }
             return most;
         }
@@ -1553,7 +1558,7 @@ public final class PlyStacker {
         }
 
         private void store(int row, int shape) {
-            if (size < rows.length) {
+            if (size >= 0 && size < rows.length) {
                 rows[size] = row & ROW_BITS | (long) shape << 32;
                 size++;
             }
@@ -1731,7 +1736,7 @@ public final class PlyStacker {
             stride = dropped;
             all = Math.min(plate.allPlies(), depths.length - 1);
             Arrays.fill(depths, NONE);
-            if (!isThin(plate, all, mask)) {
+            if (all < 0 || !isThin(plate, all, mask)) {
                 return;
             }
             depths[all] = 0;
