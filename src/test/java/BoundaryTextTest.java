@@ -244,6 +244,16 @@ public final class BoundaryTextTest {
         Edges.due("again", x.plate(), 0);
     }
 
+    /** Acts, and IMAGES with and without them; no plate() has had a FAULT. */
+    private static PlyStacker unfaulted() {
+        PlyStacker x = Edges.uneven();
+        x.image(2);
+        x.swap(0, 1);
+        x.image(0);
+        x.room(5);
+        return x;
+    }
+
     static void p04_aFaultLeavesAllElse() {
         String[] texts = {"!", "plate", "plate room 9;", ROOM + "kind", "plate room 1;" + Edges.CC + "ply cc rise;plate",
             "plate room 1;" + kinds(4), "plate room 1;kind x one 7 two 7 three 7 four 7 limit 7;ply x cross;ply y flat;",
@@ -256,6 +266,7 @@ public final class BoundaryTextTest {
             };
             Edges.due("plate()", call.on(Edges.busy()), -4);
             Edges.leavesPlates("a FAULT", Edges::busy, call);
+            Edges.leavesPlates("the first FAULT", BoundaryTextTest::unfaulted, call);
             Edges.leavesPlates("a FAULT", Edges::bare, call);
             Edges.leavesPlates("a FAULT", Edges::none, call);
         }

@@ -9,7 +9,7 @@ import java.util.Set;
 import java.util.StringJoiner;
 import java.util.TreeSet;
 
-/** The class has the document's face and no more (LANGUAGE.md, rules 1 and 5). */
+/** The class has the document's face and no more (LANGUAGE.md, rules 1, 5 and 11). */
 public final class FaceTest {
     private static int wrong = 0;
 
@@ -69,14 +69,18 @@ public final class FaceTest {
             && !Modifier.isProtected(inside.getModifiers()), inside + " is not as rule 1 says");
         for (Method m : inside.getDeclaredMethods()) {
             must(!names.contains(m.getName()), m + " bears the name of a public method");
+            must(m.getParameterCount() <= 7, m + " takes too much");
         }
         statics(inside);
     }
 
     private static void statics(Class<?> of) {
+        int held = 0;
         for (Field f : of.getDeclaredFields()) {
             must(!Modifier.isStatic(f.getModifiers()) || Modifier.isFinal(f.getModifiers()), f + " is not final");
+            if (!Modifier.isStatic(f.getModifiers())) held++;
         }
+        must(held <= 20, of + " has too many fields");
     }
 
     public static void main(String[] args) throws IOException, IllegalAccessException {
